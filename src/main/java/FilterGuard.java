@@ -25,6 +25,9 @@ public final class FilterGuard {
     private static final int MOST_TURNS = 1000000;
     private static final long LOW = 0xFFFFFFFFL;
     private static final long LOW_SIGNED = 0x7FFFFFFFL;
+    private static final long MOST = -1L;
+    private static final long LEAST_LONG = 0x8000000000000000L;
+    private static final long GREATEST_LONG = 0x7FFFFFFFFFFFFFFFL;
 
     // Kinds of section C.
     private static final int BARE = 0;
@@ -180,7 +183,8 @@ public final class FilterGuard {
         }
     }
 
-    public int map(int kind, int keyBytes, int valueBytes, int entries) {
+    public int map(int kind, int keyBytes, int valueBytes, int entries)
+            throws IllegalArgumentException, IllegalStateException {
         boolean isKey = kind == Store.ARRAY ? keyBytes == 4 : kind == Store.TABLE && keyBytes >= 1 && keyBytes <= 16;
         if (!isKey || valueBytes < 1 || valueBytes > 64 || entries < 1 || entries > 64) {
             throw new IllegalArgumentException("no such map can be");
@@ -193,7 +197,7 @@ public final class FilterGuard {
         return maps - 1;
     }
 
-    public int program(int n, int budget) {
+    public int program(int n, int budget) throws IllegalArgumentException {
         int bytes = tapeSize;
         tapeSize = 0;
         if (n < 1 || n > MOST_SLOTS || 8 * n > bytes || budget < 1 || budget > MOST_BUDGET) {
@@ -245,14 +249,14 @@ public final class FilterGuard {
         }
     }
 
-    public long fact(int slot, int what) {
+    public long fact(int slot, int what) throws IndexOutOfBoundsException {
         if (slot < 0 || slot >= code.size || what < 0 || what > 4) {
             throw new IndexOutOfBoundsException("no such slot or fact");
         }
         return facts.answer(slot, what);
     }
 
-    public long code(int k, boolean isShorter) {
+    public long code(int k, boolean isShorter) throws IndexOutOfBoundsException {
         Code asked = isShorter ? shorter : code;
         if (!isProgram || k < 0 || k >= asked.size) {
             throw new IndexOutOfBoundsException("no such slot");
@@ -278,7 +282,7 @@ public final class FilterGuard {
         return true;
     }
 
-    public int put(int map) {
+    public int put(int map) throws IllegalArgumentException {
         int bytes = tapeSize;
         tapeSize = 0;
         if (map < 0 || map >= maps || stores[map].keyBytes + stores[map].valueBytes > bytes) {
@@ -287,14 +291,14 @@ public final class FilterGuard {
         return stores[map].update(tape, 0, tape, stores[map].keyBytes);
     }
 
-    public int entry(int map, int i, int what) {
+    public int entry(int map, int i, int what) throws IndexOutOfBoundsException {
         if (map < 0 || map >= maps || i < 0 || i >= stores[map].entries || !stores[map].hasByte(i, what)) {
             throw new IndexOutOfBoundsException("no such entry or byte");
         }
         return stores[map].byteOf(i, what);
     }
 
-    public int packetAt(int k) {
+    public int packetAt(int k) throws IndexOutOfBoundsException {
         if (k < 0 || k >= machine.packetSize) {
             throw new IndexOutOfBoundsException("no such byte");
         }
@@ -305,7 +309,7 @@ public final class FilterGuard {
         machine.time = time;
     }
 
-    public long run(int mode) {
+    public long run(int mode) throws IllegalArgumentException, IllegalStateException {
         if (mode < 0 || mode > 2) {
             throw new IllegalArgumentException("no such mode");
         }
@@ -331,7 +335,7 @@ public final class FilterGuard {
         }
     }
 
-    public long told(int k) {
+    public long told(int k) throws IndexOutOfBoundsException {
         if (k < 0 || k >= machine.toldCount) {
             throw new IndexOutOfBoundsException("not told");
         }
@@ -375,11 +379,11 @@ public final class FilterGuard {
 
         void any() {
             value = 0;
-            mask = -1;
+            mask = MOST;
             least = 0;
-            greatest = -1;
-            signedLeast = Long.MIN_VALUE;
-            signedGreatest = Long.MAX_VALUE;
+            greatest = MOST;
+            signedLeast = LEAST_LONG;
+            signedGreatest = GREATEST_LONG;
         }
 
         void range(long from, long to) {
@@ -533,7 +537,7 @@ public final class FilterGuard {
                     swap(x, y);
                     break;
                 case CUT:
-                    limit.exact(y.isExact(2) ? 0xFFFFL : y.isExact(4) ? LOW : -1L);
+                    limit.exact(y.isExact(2) ? 0xFFFFL : y.isExact(4) ? LOW : MOST);
                     if (x.isAbove(limit.value)) {
                         and(x, limit);
                     } else {
@@ -607,7 +611,7 @@ public final class FilterGuard {
                 return;
             }
             int zeros = Long.numberOfTrailingZeros(x.value | x.mask) + Long.numberOfTrailingZeros(y.value | y.mask);
-            result.bits(0, zeros >= 64 ? 0 : -1L << zeros);
+            result.bits(0, zeros >= 64 ? 0 : MOST << zeros);
             if (!x.isAbove(LOW) && !y.isAbove(LOW)) {
                 result.range(x.least * y.least, x.greatest * y.greatest);
             }
@@ -731,7 +735,7 @@ public final class FilterGuard {
         }
 
         private boolean above(Num x, Num y) {
-            if (y.least == -1 || x.greatest == 0) {
+            if (y.least == MOST || x.greatest == 0) {
                 return false;
             }
             x.raiseLeast(y.least + 1);
@@ -746,7 +750,7 @@ public final class FilterGuard {
         }
 
         private boolean greater(Num x, Num y) {
-            if (y.signedLeast == Long.MAX_VALUE || x.signedGreatest == Long.MIN_VALUE) {
+            if (y.signedLeast == GREATEST_LONG || x.signedGreatest == LEAST_LONG) {
                 return false;
             }
             x.signedLeast = Math.max(x.signedLeast, y.signedLeast + 1);
@@ -943,14 +947,14 @@ public final class FilterGuard {
 
     /** A state of section C with the slot of the program at which its path is. */
     private static final class State {
+        /** The registers, then the slots of the stack from the highest place down. */
         final Cell[] cells = new Cell[CELLS];
+        /** Programs use few slots of the stack: all cells from here on are clear. */
+        int used = REGISTERS;
         int at;
         /** How many waited when it was kept: those above go on from it. */
         int waitingThen;
         boolean isOpen;
-        private final int[] ours = new int[CELLS + 1];
-        private final int[] theirs = new int[CELLS + 1];
-        private int pairs;
 
         State() {
             for (int i = 0; i < CELLS; i++) {
@@ -959,55 +963,33 @@ public final class FilterGuard {
         }
 
         void atFirst() {
-            for (int i = 0; i < CELLS; i++) {
-                cells[i].clear();
-            }
+            clearFrom(0);
             cells[1].become(CONTEXT, 0);
             cells[10].become(STACK, 0);
+            used = REGISTERS;
             at = 0;
         }
 
         void copy(State other) {
-            for (int i = 0; i < CELLS; i++) {
+            clearFrom(other.used);
+            for (int i = 0; i < other.used; i++) {
                 cells[i].copy(other.cells[i]);
             }
+            used = other.used;
             at = other.at;
+        }
+
+        private void clearFrom(int first) {
+            for (int i = first; i < used; i++) {
+                cells[i].clear();
+            }
         }
 
         /** The slot of the stack that holds the byte at a place of -512 .. -1. */
         Cell slotAt(int place) {
-            int slot = place + STACK_BYTES >> 3;
-            return cells[REGISTERS + Math.max(0, Math.min(slot, CELLS - REGISTERS - 1))];
-        }
-
-        boolean isAround(State other) {
-            pairs = 1;
-            for (int i = 0; i < CELLS; i++) {
-                Cell mine = cells[i];
-                Cell its = other.cells[i];
-                if (!mine.isAround(its)) {
-                    return false;
-                }
-                if (mine.hasIdentity() && !isPaired(mine.identity, its.identity)) {
-                    return false;
-                }
-            }
-            return true;
-        }
-
-        /** Identities go together one with one; the first pair is 0 with 0. */
-        private boolean isPaired(int mine, int its) {
-            for (int i = 0; i < pairs; i++) {
-                if (ours[i] == mine || theirs[i] == its) {
-                    return ours[i] == mine && theirs[i] == its;
-                }
-            }
-            if (pairs < ours.length) {
-                ours[pairs] = mine;
-                theirs[pairs] = its;
-                pairs++;
-            }
-            return true;
+            int i = REGISTERS + Math.max(0, Math.min(-1 - place >> 3, CELLS - REGISTERS - 1));
+            used = Math.max(used, i + 1);
+            return cells[i];
         }
     }
 
@@ -1475,7 +1457,7 @@ public final class FilterGuard {
             }
             int newKind = isGone == isZeroGone ? NUMBER : VALUE;
             int room = isGone ? roomGone : roomFallen;
-            for (int i = 0; i < CELLS; i++) {
+            for (int i = 0; i < way.used; i++) {
                 Cell cell = way.cells[i];
                 if (!cell.hasIdentity() || cell.identity != toldIdentity) {
                     continue;
@@ -1676,6 +1658,9 @@ public final class FilterGuard {
         private final Steps steps;
         private final State[] kept = new State[MOST_STATES];
         private final State[] waiting = new State[MOST_STATES];
+        private final int[] keptIdentities = new int[CELLS + 1];
+        private final int[] itsIdentities = new int[CELLS + 1];
+        private int pairs;
         private State now;
         private int waitingCount;
         private boolean isThrough;
@@ -1732,7 +1717,7 @@ public final class FilterGuard {
 
         private int meetKept() {
             for (int i = 0; i < keptCount; i++) {
-                if (kept[i].at == now.at && kept[i].isAround(now)) {
+                if (kept[i].at == now.at && isWithin(kept[i])) {
                     isThrough = !kept[i].isOpen;
                     return isThrough ? 0 : FAULT_OPEN;
                 }
@@ -1746,6 +1731,32 @@ public final class FilterGuard {
                 keptCount++;
             }
             return 0;
+        }
+
+        /** Whether the state now is within a kept one. */
+        private boolean isWithin(State keptState) {
+            pairs = 1;
+            for (int i = 0; i < keptState.used; i++) {
+                Cell ours = keptState.cells[i];
+                Cell its = now.cells[i];
+                if (!ours.isAround(its) || ours.hasIdentity() && !isPaired(ours.identity, its.identity)) {
+                    return false;
+                }
+            }
+            return true;
+        }
+
+        /** Identities go together one with one; the first pair, never written, is 0 with 0. */
+        private boolean isPaired(int ours, int its) {
+            for (int i = 0; i < pairs; i++) {
+                if (keptIdentities[i] == ours || itsIdentities[i] == its) {
+                    return keptIdentities[i] == ours && itsIdentities[i] == its;
+                }
+            }
+            keptIdentities[pairs] = ours;
+            itsIdentities[pairs] = its;
+            pairs++;
+            return true;
         }
 
         private int goOn(int at) {
@@ -1874,7 +1885,7 @@ public final class FilterGuard {
         }
 
         void shorten(Code code, Code shorter) {
-            shorter.size = MOST_SLOTS;
+            shorter.size = code.size;
             for (int k = 0; k < code.size; k++) {
                 if (!code.isSecond[k]) {
                     code.look(k);
@@ -2200,7 +2211,7 @@ public final class FilterGuard {
                 case SWAP:
                     return Long.reverseBytes(x) >>> 64 - 8 * (int) y;
                 case CUT:
-                    return x & -1L >>> 64 - 8 * (int) y;
+                    return x & MOST >>> 64 - 8 * (int) y;
                 default:
                     return y;
             }
@@ -2425,15 +2436,11 @@ public final class FilterGuard {
             if (by == NUMBER) {
                 return to.isPointer();
             }
-            if (code.operation == ADD) {
-                return to.kind == NUMBER && cells[code.from].isPointer() && copyKind(to, by);
-            }
-            return to.isOfPacket() && cells[code.from].isOfPacket() && copyKind(to, NUMBER);
-        }
-
-        private boolean copyKind(Cell to, int kind) {
-            to.kind = kind;
-            return true;
+            Cell from = cells[code.from];
+            boolean isSum = code.operation == ADD && to.kind == NUMBER && from.isPointer();
+            boolean isDistance = code.operation == SUBTRACT && to.isOfPacket() && from.isOfPacket();
+            to.kind = isSum ? by : NUMBER;
+            return isSum || isDistance;
         }
 
         private boolean allowsRelation(long[] registers) {
