@@ -18,6 +18,7 @@ public final class ExploreTest {
         keptLimit();
         within();
         withinIdentities();
+        threeWays();
         factsOfArithmetic();
         wrongFacts();
         CHECK.end();
@@ -193,6 +194,11 @@ public final class ExploreTest {
         within("bits and a number that agrees", a().load(1, 3, 1, 16).field(Assembly.AND, 3, 0xF0), a().move(3, 0x30), true);
         within("bits and a number that does not", a().load(1, 3, 1, 16).field(Assembly.AND, 3, 0xF0), a().move(3, 0x31), false);
         within("signed bounds", a().load(8, 3, 1, 16).ifField(Assembly.GREATER, 3, 4, 1).move(3, 4), a().move(3, 5), false);
+        within("an unsigned least", a().load(8, 3, 1, 24).ifField(Assembly.NOT_BELOW, 3, 10, 2).leave(0), a().load(8, 3, 1, 24), false);
+        within("an unsigned greatest", a().load(8, 3, 1, 24).ifField(Assembly.NOT_ABOVE, 3, -10, 2).leave(0), a().load(8, 3, 1, 24), false);
+        within("a signed least", a().load(8, 3, 1, 24).ifField(Assembly.NOT_LESS, 3, -10, 2).leave(0), a().load(8, 3, 1, 24), false);
+        within("a signed greatest", a().load(8, 3, 1, 24).ifField(Assembly.NOT_GREATER, 3, 10, 2).leave(0), a().load(8, 3, 1, 24), false);
+        within("ANY", a().load(8, 3, 1, 24), a().load(8, 3, 1, 24).ifField(Assembly.NOT_GREATER, 3, 10, 2).leave(0), true);
         within("a pointer and a number", a().copy(3, 1), a().move(3, 0), false);
         within("a number and a pointer", a().load(8, 3, 1, 16), a().copy(3, 1), false);
         within("the same place", a().copy(3, 1), a().copy(3, 1), true);
@@ -254,9 +260,41 @@ public final class ExploreTest {
         within("a MAYBE and one of another map", find(0, 6), find(1, 6), false);
         within("two MAYBEs of one identity and of two", find(0, 6).copy(7, 6), both(find(0, 6), find(0, 7)), false);
         within("two MAYBEs of two identities and of one", both(find(0, 6), find(0, 7)), find(0, 6).copy(7, 6), false);
+        within("values", value(0, 3, 0), value(0, 3, 0), true);
+        within("values of different maps", value(0, 3, 0), value(1, 3, 0), false);
+        within("values at different places", value(0, 3, 0), value(0, 3, 1), false);
+        within("a MORE that covers", value(0, 3, 0), value(0, 1, 0), true);
+        within("a MORE that does not", value(0, 1, 0), value(0, 3, 0), false);
+        within("a packet's MORE that covers", moved(3), moved(1), true);
+        within("a packet's MORE that does not", moved(1), moved(3), false);
         within("as much room", roomOf(4), roomOf(4), true);
         within("more room is within less", roomOf(4), roomOf(8), true);
         within("less room is not within more", roomOf(8), roomOf(4), false);
+    }
+
+    /** A VALUE at a place, with a MORE of 0 up to what is told, is in register 6. */
+    private static Assembly value(int map, int more, int place) {
+        return both(find(map, 6), a().ifField(Assembly.NOT_SAME, 6, 0, 2).leave(0).load(1, 7, 1, 24).field(Assembly.AND, 7, more)
+            .from(Assembly.ADD, 6, 7).field(Assembly.ADD, 6, place).move(7, 0).move(0, 0));
+    }
+
+    /** A PACKET with a MORE of 0 up to what is told is in register 6. */
+    private static Assembly moved(int more) {
+        return a().load(8, 6, 1, 0).load(1, 7, 1, 24).field(Assembly.AND, 7, more).from(Assembly.ADD, 6, 7).move(7, 0);
+    }
+
+    /** Three ways with a MAYBE each come together: what went with the second one's identity says nothing of the third. */
+    private static void threeWays() {
+        Assembly way = find(0, 6);
+        Assembly program = a().load(8, 9, 1, 16).ifField(Assembly.SAME, 9, 3, way.size() + 1);
+        both(program, way).jump(2 * way.size() + 3).load(8, 9, 1, 16).ifField(Assembly.SAME, 9, 4, way.size() + 1);
+        both(program, way).jump(way.size());
+        both(program, way).move(9, 0).leave(1);
+        FilterGuard guard = new FilterGuard();
+        guard.map(0, 4, 8, 4);
+        CHECK.due("three ways", program.program(guard), 0);
+        CHECK.due("paths", guard.about(5), 3);
+        CHECK.due("visits where they come together", guard.fact(program.size() - 1, 0), 1);
     }
 
     private static void factsOfArithmetic() {

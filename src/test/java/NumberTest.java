@@ -102,6 +102,16 @@ public final class NumberTest {
         unsigned("SUBTRACT of just as much", x().field(Assembly.ADD, 2, 255).from(Assembly.SUBTRACT, 2, 3), 0, 510);
         bits("SUBTRACT", x().field(Assembly.AND, 2, 0xF0).field(Assembly.ADD, 2, 7).field(Assembly.SUBTRACT, 2, 2), 5, ~0xF5L);
         signed("NEGATE", x().negate(2), -255, 0);
+        signed("ADD above the greatest long", x().wide(5, Long.MAX_VALUE - 254).from(Assembly.ADD, 2, 5), Long.MIN_VALUE, Long.MAX_VALUE);
+        signed("ADD up to the greatest long", x().wide(5, Long.MAX_VALUE - 255).from(Assembly.ADD, 2, 5), Long.MAX_VALUE - 255, Long.MAX_VALUE);
+        signed("SUBTRACT below the least long", x().copy(5, 2).wide(2, Long.MIN_VALUE + 254).from(Assembly.SUBTRACT, 2, 5),
+            Long.MIN_VALUE, Long.MAX_VALUE);
+        signed("SUBTRACT down to the least long", x().copy(5, 2).wide(2, Long.MIN_VALUE + 255).from(Assembly.SUBTRACT, 2, 5),
+            Long.MIN_VALUE, Long.MIN_VALUE + 255);
+        signed("SUBTRACT above the greatest long", x().copy(5, 2).field(Assembly.ADD, 5, -255).wide(2, Long.MAX_VALUE - 254)
+            .from(Assembly.SUBTRACT, 2, 5), Long.MIN_VALUE, Long.MAX_VALUE);
+        signed("SUBTRACT up to the greatest long", x().copy(5, 2).field(Assembly.ADD, 5, -255).wide(2, Long.MAX_VALUE - 255)
+            .from(Assembly.SUBTRACT, 2, 5), Long.MAX_VALUE - 255, Long.MAX_VALUE);
     }
 
     private static void products() {
@@ -125,6 +135,10 @@ public final class NumberTest {
         bits("AND", x().copy(2, 4).field(Assembly.AND, 2, 0x3C), 0, ~0x3CL);
         unsigned("AND", x().field(Assembly.AND, 2, -1), 0, 255);
         unsigned("AND of two", x().from(Assembly.AND, 2, 4), 0, 255);
+        unsigned("AND with the lesser greatest of FROM", x().ifField(ABOVE, 2, 200, 3).copy(5, 2).copy(2, 4).jump(2).leave(0)
+            .from(Assembly.AND, 2, 5), 0, 200);
+        unsigned("AND with the lesser greatest of TO", x().ifField(ABOVE, 2, 200, 1).jump(2).leave(0).from(Assembly.AND, 2, 4), 0, 200);
+        unsigned("OR with the greater least of FROM", x().field(Assembly.ADD, 3, 5).from(Assembly.OR, 2, 3), 5, 511);
         bits("OR", x().field(Assembly.OR, 2, 0x105), 0x105, ~0x1FFL);
         unsigned("OR", x().field(Assembly.ADD, 2, 5).from(Assembly.OR, 2, 4), 5, -1);
         bits("XOR", x().field(Assembly.AND, 2, 0xF0).field(Assembly.XOR, 2, 0x0F), 0x0F, ~0xFFL);
@@ -133,6 +147,9 @@ public final class NumberTest {
 
     private static void shifts() {
         unsigned("LEFT", x().field(Assembly.LEFT, 2, 4), 0, 0xFF0);
+        unsigned("LEFT of bounds", x().field(Assembly.ADD, 2, 5).field(Assembly.LEFT, 2, 4), 80, 4160);
+        unsigned("LEFT up to the highest bit", x().field(Assembly.ADD, 2, 5).field(Assembly.LEFT, 2, 55), 5L << 55, 260L << 55);
+        unsigned("LEFT by 0", x().field(Assembly.ADD, 2, 5).field(Assembly.LEFT, 2, 0), 5, 260);
         bits("LEFT", x().field(Assembly.LEFT, 2, 4), 0, ~0xFF0L);
         unsigned("LEFT out of 64 bits", x().field(Assembly.ADD, 2, 1).field(Assembly.LEFT, 2, 60), 0, 0xF000000000000000L);
         unsigned("LEFT by a register", x().from(Assembly.LEFT, 2, 3), 0, -1);

@@ -84,6 +84,10 @@ public final class StepTest {
         fine("END - PACKET", a().load(8, 0, 1, 8).load(8, 2, 1, 0).from(SUBTRACT, 0, 2).exit());
         fine("END - END", a().load(8, 0, 1, 8).from(SUBTRACT, 0, 0).exit());
         fine("PACKET - PACKET", a().load(8, 0, 1, 0).from(SUBTRACT, 0, 0).exit());
+        fault("PACKET - STACK", a().load(8, 2, 1, 0).from(SUBTRACT, 2, 10).leave(0), 11, 1);
+        fault("STACK - END", a().load(8, 2, 1, 8).copy(3, 10).from(SUBTRACT, 3, 2).leave(0), 11, 2);
+        fault("END - a number", a().load(8, 2, 1, 8).field(SUBTRACT, 2, 1).leave(0), 11, 1);
+        fault("PACKET - a MAP", a().load(8, 2, 1, 0).mapTo(3, 0).from(SUBTRACT, 2, 3).leave(0), 11, 3);
         fault("PACKET + END", a().load(8, 0, 1, 0).load(8, 2, 1, 8).from(ADD, 0, 2).exit(), 11, 2);
     }
 
@@ -115,6 +119,9 @@ public final class StepTest {
         fault("pointers", a().ifFrom(Assembly.SAME, 1, 10, 0).leave(0), 12, 0);
         fault("a pointer and a number", a().ifField(Assembly.SAME, 1, 0, 0).leave(0), 12, 0);
         fault("a pointer and itself", a().ifFrom(Assembly.SAME, 1, 1, 0).leave(0), 12, 0);
+        fault("0 and a pointer", a().move(2, 0).ifFrom(Assembly.SAME, 2, 1, 0).leave(0), 12, 1);
+        fault("a pointer and 0", a().move(2, 0).ifFrom(Assembly.NOT_SAME, 1, 2, 0).leave(0), 12, 1);
+        fault("a MAP and 0", a().mapTo(2, 0).ifField(Assembly.SAME, 2, 0, 0).leave(0), 12, 2);
         fine("a number and itself", a().move(2, 0).ifFrom(Assembly.NOT_SAME, 2, 2, 0).leave(0));
         Assembly[] ends = new Assembly[14];
         for (int k = 1; k <= 13; k++) {
@@ -149,7 +156,10 @@ public final class StepTest {
         fault("SAME 1", found().ifField(Assembly.SAME, 0, 1, 0).leave(0), 12, 6);
         fault("ABOVE 0", found().ifField(Assembly.ABOVE, 0, 0, 0).leave(0), 12, 6);
         fault("narrow SAME 0", found().ifNarrowField(Assembly.SAME, 0, 0, 0).leave(0), 12, 6);
-        fault("a number not EXACT", found().call(5).copy(3, 0).leave(0), 0, -1);
+        fault("a number not EXACT", found().load(8, 3, 10, -8).storeField(4, 10, -8, 0).load(8, 3, 10, -8)
+            .ifFrom(Assembly.SAME, 0, 3, 0).leave(0), 12, 9);
+        fault("a pointer and a MAYBE", found().ifFrom(Assembly.SAME, 10, 0, 0).leave(0), 12, 6);
+        fault("a MAYBE and itself", found().ifFrom(Assembly.SAME, 0, 0, 0).leave(0), 12, 6);
         fine("all of the identity become values", found().copy(6, 0).store(8, 10, -16, 0)
             .ifField(Assembly.SAME, 0, 0, 4).load(8, 7, 6, 0).load(8, 8, 10, -16).load(8, 0, 8, 0).exit().leave(0));
         fine("all of the identity become 0", found().store(8, 10, -16, 0).copy(6, 0)
