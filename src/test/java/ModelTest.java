@@ -4,13 +4,14 @@ import java.nio.file.Path;
 import java.util.List;
 
 /**
- * Promises 4 to 17 on programs made by chance: the answers in model-runs.txt come from a second,
- * plainer model that was written from the document alone. A line of it is a call, a line that begins
- * with = is what is due of the call above it; facts, SHORTER code and what a run leaves are digests.
+ * Promises 4 to 17 on programs made by chance: the answers in model-runs.txt and, mostly of numbers,
+ * in number-runs.txt come from a second, plainer model that was written from the document alone. A
+ * line there is a call, a line that begins with = is what is due of the call above it; facts, SHORTER
+ * code and what a run leaves are digests.
  */
 public final class ModelTest {
     private static final Checker CHECK = new Checker("ModelTest");
-    private static final Path RUNS = Path.of("src/test/resources/model-runs.txt");
+    private static final Path RESOURCES = Path.of("src/test/resources");
 
     private FilterGuard guard;
     private int[][] maps;
@@ -20,18 +21,23 @@ public final class ModelTest {
     }
 
     public static void main(String[] args) throws IOException {
+        replay("model-runs.txt");
+        replay("number-runs.txt");
+        CHECK.end();
+    }
+
+    private static void replay(String file) throws IOException {
         ModelTest test = new ModelTest();
-        List<String> lines = Files.readAllLines(RUNS);
+        List<String> lines = Files.readAllLines(RESOURCES.resolve(file));
         for (int i = 0; i < lines.size(); i++) {
             boolean hasDue = i + 1 < lines.size() && lines.get(i + 1).startsWith("=");
             if (!lines.get(i).startsWith("=")) {
                 long[] got = test.call(lines.get(i).split(" "));
                 if (hasDue) {
-                    compare("line " + (i + 1), got, lines.get(i + 1).split(" "));
+                    compare(file + ", line " + (i + 1), got, lines.get(i + 1).split(" "));
                 }
             }
         }
-        CHECK.end();
     }
 
     private static void compare(String what, long[] got, String[] want) {

@@ -116,6 +116,7 @@ public final class ShorterTest {
     private static void offsets() {
         shorter("offsets forth", a().load(1, 2, 1, 16).ifField(Assembly.SAME, 2, 1, 4).jump(1).move(0, 9).load(1, 0, 1, 17).exit().load(1, 0, 1, 18).exit(),
             a().load(1, 2, 1, 16).ifField(Assembly.SAME, 2, 1, 2).load(1, 0, 1, 17).exit().load(1, 0, 1, 18).exit());
+        shorter("a jump of slot 0", a().jump(3).move(9, 9).leave(1).jump(-3), a().jump(2).leave(1).jump(-3));
         shorter("offsets back", a().load(1, 0, 1, 16).move(2, 0).jump(1).move(9, 9).field(Assembly.ADD, 2, 1).ifField(Assembly.ABOVE, 2, 100, 1)
             .ifField(Assembly.NOT_SAME, 2, 3, -3).exit(),
             a().load(1, 0, 1, 16).move(2, 0).field(Assembly.ADD, 2, 1).ifField(Assembly.NOT_SAME, 2, 3, -2).exit());

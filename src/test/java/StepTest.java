@@ -251,6 +251,10 @@ public final class StepTest {
             .load(8, 0, 10, -8).exit(), 15, 3);
         fault("the byte below", a().storeField(4, 10, -4, 1).load(4, 0, 10, -8).exit(), 15, 1);
         fault("the byte above", a().storeField(4, 10, -8, 1).load(4, 0, 10, -4).exit(), 15, 1);
+        fault("the two lowest slots", a().storeField(8, 10, -512, 1).load(8, 0, 10, -504).exit(), 15, 1);
+        fault("the two lowest slots turned", a().storeField(8, 10, -504, 1).load(8, 0, 10, -512).exit(), 15, 1);
+        fault("the two highest slots", a().storeField(8, 10, -8, 1).load(8, 0, 10, -16).exit(), 15, 1);
+        fault("the two highest slots turned", a().storeField(8, 10, -16, 1).load(8, 0, 10, -8).exit(), 15, 1);
         fine("a place and an OFFSET", a().copy(2, 10).field(ADD, 2, -520).storeField(8, 2, 8, 1).load(8, 0, 10, -512).exit());
     }
 
