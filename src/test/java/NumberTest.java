@@ -102,6 +102,20 @@ public final class NumberTest {
         unsigned("SUBTRACT of just as much", x().field(Assembly.ADD, 2, 255).from(Assembly.SUBTRACT, 2, 3), 0, 510);
         bits("SUBTRACT", x().field(Assembly.AND, 2, 0xF0).field(Assembly.ADD, 2, 7).field(Assembly.SUBTRACT, 2, 2), 5, ~0xF5L);
         signed("NEGATE", x().negate(2), -255, 0);
+        signed("ADD of one across 0 and a byte", x().field(Assembly.ADD, 2, -100).from(Assembly.ADD, 2, 3), -100, 410);
+        signed("ADD of a byte and one across 0", x().field(Assembly.ADD, 3, -100).from(Assembly.ADD, 2, 3), -100, 410);
+        signed("ADD of one below 0 and one across it", x().field(Assembly.ADD, 2, -400).field(Assembly.ADD, 3, -155).from(Assembly.ADD, 2, 3),
+            -555, -45);
+        signed("ADD of one across 0 and one below it", x().field(Assembly.ADD, 3, -400).field(Assembly.ADD, 2, -155).from(Assembly.ADD, 2, 3),
+            -555, -45);
+        signed("SUBTRACT of one below 0 from one across it", x().field(Assembly.ADD, 2, -100).field(Assembly.ADD, 3, -400)
+            .from(Assembly.SUBTRACT, 2, 3), 45, 555);
+        signed("SUBTRACT of a byte from one across 0", x().field(Assembly.ADD, 2, -100).from(Assembly.SUBTRACT, 2, 3), -355, 155);
+        signed("SUBTRACT of two below 0", x().field(Assembly.ADD, 2, -400).field(Assembly.ADD, 3, -300).from(Assembly.SUBTRACT, 2, 3), -355, 155);
+        unsigned("ADD across the greatest long", x().wide(5, Long.MAX_VALUE - 100).from(Assembly.ADD, 2, 5), Long.MAX_VALUE - 100,
+            Long.MAX_VALUE + 155);
+        unsigned("SUBTRACT across the greatest long", x().wide(5, Long.MAX_VALUE).from(Assembly.ADD, 2, 5).from(Assembly.SUBTRACT, 2, 3),
+            Long.MAX_VALUE - 255, Long.MAX_VALUE + 255);
         signed("ADD above the greatest long", x().wide(5, Long.MAX_VALUE - 254).from(Assembly.ADD, 2, 5), Long.MIN_VALUE, Long.MAX_VALUE);
         signed("ADD up to the greatest long", x().wide(5, Long.MAX_VALUE - 255).from(Assembly.ADD, 2, 5), Long.MAX_VALUE - 255, Long.MAX_VALUE);
         signed("SUBTRACT below the least long", x().copy(5, 2).wide(2, Long.MIN_VALUE + 254).from(Assembly.SUBTRACT, 2, 5),
@@ -141,6 +155,9 @@ public final class NumberTest {
         unsigned("OR with the greater least of FROM", x().field(Assembly.ADD, 3, 5).from(Assembly.OR, 2, 3), 5, 511);
         bits("OR", x().field(Assembly.OR, 2, 0x105), 0x105, ~0x1FFL);
         unsigned("OR", x().field(Assembly.ADD, 2, 5).from(Assembly.OR, 2, 4), 5, -1);
+        bits("OR, seen by XOR", x().field(Assembly.OR, 2, 0x105).field(Assembly.XOR, 2, 0), 0x105, ~0x1FFL);
+        bits("OR of one that is known and one that is not", x().field(Assembly.OR, 3, 0x0F).from(Assembly.OR, 2, 3).field(Assembly.XOR, 2, 0),
+            0x0F, ~0xFFL);
         bits("XOR", x().field(Assembly.AND, 2, 0xF0).field(Assembly.XOR, 2, 0x0F), 0x0F, ~0xFFL);
         unsigned("XOR", x().field(Assembly.XOR, 2, 0x100), 0x100, 0x1FF);
     }
@@ -156,6 +173,9 @@ public final class NumberTest {
         unsigned("LEFT by an EXACT register's lowest 6 bits", x().move(5, 66).from(Assembly.LEFT, 2, 5), 0, 1020);
         unsigned("RIGHT", x().field(Assembly.ADD, 2, 16).field(Assembly.RIGHT, 2, 4), 1, 16);
         unsigned("RIGHT of ANY", x().copy(2, 4).field(Assembly.RIGHT, 2, 60), 0, 15);
+        bits("RIGHT", x().field(Assembly.AND, 2, 0xF0).field(Assembly.OR, 2, 0x104).field(Assembly.RIGHT, 2, 2), 0x41, ~0x7DL);
+        bits("RIGHT SIGNED", x().field(Assembly.AND, 2, 0xF0).field(Assembly.OR, 2, 0x104).field(Assembly.RIGHT_SIGNED, 2, 2), 0x41, ~0x7DL);
+        bits("RIGHT SIGNED of a sign that is not known", x().copy(2, 4).field(Assembly.AND, 2, -256).field(Assembly.RIGHT_SIGNED, 2, 4), 0, 0xF);
         signed("RIGHT SIGNED", x().copy(2, 4).field(Assembly.RIGHT_SIGNED, 2, 60), -8, 7);
         signed("RIGHT SIGNED of bounds", x().field(Assembly.ADD, 2, -100).field(Assembly.RIGHT_SIGNED, 2, 2), -25, 38);
         unsigned("RIGHT SIGNED by a register", x().from(Assembly.RIGHT_SIGNED, 2, 3), 0, -1);
@@ -265,6 +285,10 @@ public final class NumberTest {
         signed("a signed bound of ANY", x().copy(2, 4).ifField(LESS, 2, -5, 2).leave(0), Long.MIN_VALUE, -6);
         unsigned("of FROM", x().field(Assembly.ADD, 3, 40).ifFrom(ABOVE, 3, 2, 2).leave(0), 0, 255);
         unsigned("of FROM where it falls", x().field(Assembly.ADD, 3, 40).ifFrom(BELOW, 2, 3, 1).jump(2).leave(0), 40, 255);
+        unsigned("signed bounds take no unsigned ones away", x().copy(2, 4).ifField(Assembly.NOT_BELOW, 2, 10, 2).leave(0)
+            .ifField(Assembly.NOT_LESS, 2, 5, 2).leave(0), 10, Long.MAX_VALUE);
+        unsigned("unsigned bounds below the least long", x().copy(2, 4).ifField(Assembly.NOT_ABOVE, 2, -10, 2).leave(0)
+            .ifField(LESS, 2, 0, 2).leave(0), Long.MIN_VALUE, -10);
         ways("above MOST", x().copy(2, 4), ABOVE, -1, false, true);
         ways("below 0", x().copy(2, 4), BELOW, 0, false, true);
         ways("greater than the greatest", x().copy(2, 4), GREATER, Long.MAX_VALUE, false, true);
@@ -290,13 +314,24 @@ public final class NumberTest {
             Long.MIN_VALUE + 1, Long.MAX_VALUE);
         unsigned("FROM of NOT SAME", x().move(5, 0).ifFrom(Assembly.NOT_SAME, 5, 2, 2).leave(0), 1, 255);
         unsigned("SAME of two", x().field(Assembly.ADD, 3, 40).ifFrom(Assembly.SAME, 2, 3, 2).leave(0), 40, 255);
+        unsigned("SAME tells an unsigned least", sameAs(Assembly.NOT_BELOW, 10), 10, -1);
+        unsigned("SAME tells an unsigned greatest", sameAs(Assembly.NOT_ABOVE, -10), 0, -10);
+        signed("SAME tells a signed least", sameAs(Assembly.NOT_LESS, -10), -10, Long.MAX_VALUE);
+        signed("SAME tells a signed greatest", sameAs(Assembly.NOT_GREATER, 10), Long.MIN_VALUE, 10);
         bits("SAME tells bits", x().field(Assembly.OR, 2, 1).field(Assembly.AND, 4, 0x55).ifFrom(Assembly.SAME, 2, 4, 2).leave(0), 1, ~0x55L);
         ways("bits that differ", x().field(Assembly.OR, 2, 1), Assembly.SAME, 4, false, true);
         ways("the same EXACT", x().move(2, 4), Assembly.SAME, 4, true, false);
         ways("another EXACT", x().move(2, 4), Assembly.NOT_SAME, 5, true, false);
     }
 
+    /** 2 is ANY, and the same as one of which a relation holds. */
+    private static Assembly sameAs(int k, int field) {
+        return x().load(8, 2, 1, 32).ifField(k, 4, field, 2).leave(0).ifFrom(Assembly.SAME, 2, 4, 2).leave(0);
+    }
+
     private static void toldByMeet() {
+        bits("MEET leaves what is known", x().field(Assembly.AND, 2, 0xF0).ifField(MEET, 2, 0x10, 2).leave(0), 0x10, ~0xF0L);
+        bits("FROM of MEET keeps what is known", x().field(Assembly.AND, 2, 0xF0).move(5, 0x10).ifFrom(MEET, 5, 2, 2).leave(0), 0x10, ~0xF0L);
         bits("MEET of one bit goes", goneBy(MEET, 4), 4, ~0xFFL);
         bits("MEET of one bit falls", fallenBy(MEET, 4), 0, ~0xFBL);
         bits("MEET of two bits goes", goneBy(MEET, 5), 0, ~0xFFL);
