@@ -1380,7 +1380,7 @@ public final class FilterGuard {
             canFall = true;
             toldKind = NOTHING_TOLD;
             if (to.kind == NUMBER && by.kind == NUMBER) {
-                if (to == by) {
+                if (code.readsFrom && code.to == code.from) {
                     return 0;
                 }
                 toldKind = NUMBERS_TOLD;
@@ -1453,6 +1453,9 @@ public final class FilterGuard {
                 if (code.readsFrom) {
                     way.cells[code.from].number.copy(isGone ? fromGone : fromFallen);
                 }
+                return;
+            }
+            if (toldKind == NOTHING_TOLD) {
                 return;
             }
             int newKind = isGone == isZeroGone ? NUMBER : VALUE;
