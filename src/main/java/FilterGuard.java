@@ -1810,8 +1810,10 @@ public final class FilterGuard {
             return true;
         }
 
+        /** Ends a path; false if none waits. */
         private boolean takeLatest() {
             paths++;
+            // What went on from a kept state waits above the number that waited when it was kept.
             for (int i = 0; i < keptCount; i++) {
                 if (kept[i].waitingThen >= waitingCount) {
                     kept[i].isOpen = false;
@@ -1822,6 +1824,7 @@ public final class FilterGuard {
             }
             waitingCount--;
             State taken = waiting[waitingCount];
+            // The state of the path that is through serves again for the next one that waits.
             waiting[waitingCount] = now;
             now = taken;
             return true;

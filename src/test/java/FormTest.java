@@ -208,6 +208,7 @@ public final class FormTest {
         CHECK.due("facts stay", guard.fact(1, 0), 1);
         CHECK.due("the greatest budget", program.program(guard, 20000), 0);
         CHECK.due("slots", guard.about(6), 2);
+        // So many slots can't be fed in 512 calls; the document's limit is kept all the same.
         FilterGuard large = new FilterGuard();
         Assembly most = new Assembly();
         for (int i = 0; i < 1999; i++) {

@@ -55,6 +55,7 @@ public final class TapeTest {
         for (int k = 0; k < 20; k++) {
             CHECK.due("packetAt(" + k + ")", guard.packetAt(k), want[k]);
         }
+        // The tape's end lies behind the 512 calls of which the document speaks; this class keeps it all the same.
         for (int i = 0; i < 65536 / 20; i++) {
             CHECK.due("feed " + i, guard.feed(i, i, i, i, i), true);
         }
