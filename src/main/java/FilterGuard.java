@@ -2534,7 +2534,7 @@ public final class FilterGuard {
                 case TELL:
                     return cells[1].kind == NUMBER;
                 case MIX:
-                    return cells[2].kind == NUMBER && isReadable(1, registers[1], registers[2]);
+                    return cells[2].kind == NUMBER && canRead(1, registers[1], registers[2]);
                 default:
                     break;
             }
@@ -2543,11 +2543,11 @@ public final class FilterGuard {
                 return false;
             }
             Store store = stores[(int) mapNumber];
-            return isReadable(2, registers[2], store.keyBytes)
-                && (code.field != UPDATE || isReadable(3, registers[3], store.valueBytes));
+            return canRead(2, registers[2], store.keyBytes)
+                && (code.field != UPDATE || canRead(3, registers[3], store.valueBytes));
         }
 
-        private boolean isReadable(int register, long address, long bytes) {
+        private boolean canRead(int register, long address, long bytes) {
             int kind = cells[register].kind;
             if (kind != STACK) {
                 return kind == PACKET || kind == VALUE;
