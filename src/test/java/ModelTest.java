@@ -5,8 +5,7 @@ import java.util.List;
 
 /**
  * Promises 4 to 17 on programs made by chance: the answers in model-runs.txt and, mostly of numbers,
- * in number-runs.txt come from a second, plainer model that was written from the document alone. A
- * line there is a call, a line that begins with = is what is due of the call above it; facts, SHORTER
+ * in number-runs.txt come from a second, plainer model by the same hand (see README.md). A line there is a call, a line that begins with = is what is due of the call above it; facts, SHORTER
  * code and what a run leaves are digests.
  */
 public final class ModelTest {
