@@ -5,8 +5,9 @@ import java.util.List;
 
 /**
  * Promises 4 to 17 on programs made by chance: the answers in model-runs.txt and, mostly of numbers,
- * in number-runs.txt come from a second, plainer model by the same hand (see README.md). A line there is a call, a line that begins with = is what is due of the call above it; facts, SHORTER
- * code and what a run leaves are digests.
+ * in number-runs.txt come from a second, plainer model by the same hand (see README.md). A line there
+ * is a call, a line that begins with = is what is due of the call above it; facts, SHORTER code and
+ * what a run leaves are digests.
  */
 public final class ModelTest {
     private static final Checker CHECK = new Checker("ModelTest");
