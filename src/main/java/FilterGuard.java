@@ -413,15 +413,21 @@ public final class FilterGuard {
             return mask == 0 && value == c;
         }
 
+        /** Without sign: that order is the signed one of longs whose highest bit is turned. */
+        static boolean isBelow(long x, long y) {
+            return (x ^ LEAST_LONG) < (y ^ LEAST_LONG);
+        }
+
+        /** This one, and the two that move a bound, turn the bit themselves: calls stay eight deep. */
         boolean isAbove(long limit) {
-            return Long.compareUnsigned(greatest, limit) > 0;
+            return (greatest ^ LEAST_LONG) > (limit ^ LEAST_LONG);
         }
 
         boolean covers(Num other) {
             return (~mask & other.mask) == 0
                 && ((value ^ other.value) & ~mask) == 0
-                && Long.compareUnsigned(least, other.least) <= 0
-                && Long.compareUnsigned(greatest, other.greatest) >= 0
+                && !isBelow(other.least, least)
+                && !isBelow(greatest, other.greatest)
                 && signedLeast <= other.signedLeast
                 && signedGreatest >= other.signedGreatest;
         }
@@ -429,23 +435,21 @@ public final class FilterGuard {
         /** False if the number is EMPTY. */
         boolean settle() {
             for (int time = 0; time < 3; time++) {
-                long most = value | mask;
-                least = Long.compareUnsigned(least, value) < 0 ? value : least;
-                greatest = Long.compareUnsigned(greatest, most) > 0 ? most : greatest;
+                raiseLeast(value);
+                lowerGreatest(value | mask);
                 if ((least ^ greatest) >= 0) {
                     signedLeast = Math.max(signedLeast, least);
                     signedGreatest = Math.min(signedGreatest, greatest);
                 }
                 if ((signedLeast ^ signedGreatest) >= 0) {
-                    least = Long.compareUnsigned(least, signedLeast) < 0 ? signedLeast : least;
-                    greatest = Long.compareUnsigned(greatest, signedGreatest) > 0 ? signedGreatest : greatest;
+                    raiseLeast(signedLeast);
+                    lowerGreatest(signedGreatest);
                 }
                 // Bounds only draw together: what crossed ahead of this is still crossed here.
-                if (Long.compareUnsigned(least, greatest) > 0 || signedLeast > signedGreatest) {
+                if (isBelow(greatest, least) || signedLeast > signedGreatest) {
                     return false;
                 }
-                long differing = least ^ greatest;
-                long open = differing == 0 ? 0 : (Long.highestOneBit(differing) << 1) - 1;
+                long open = downFromHighest(least ^ greatest);
                 if (((value ^ least) & ~mask & ~open) != 0) {
                     return false;
                 }
@@ -455,14 +459,30 @@ public final class FilterGuard {
             return true;
         }
 
+        /** The highest bit that is 1, and all below. */
+        private static long downFromHighest(long bits) {
+            long down = bits | bits >>> 1;
+            down |= down >>> 2;
+            down |= down >>> 4;
+            down |= down >>> 8;
+            down |= down >>> 16;
+            return down | down >>> 32;
+        }
+
+        /** How many of the lowest bits are known 0. */
+        int lowestZeros() {
+            long ones = value | mask;
+            return Long.bitCount(~ones & ones - 1);
+        }
+
         void raiseLeast(long limit) {
-            if (Long.compareUnsigned(least, limit) < 0) {
+            if ((least ^ LEAST_LONG) < (limit ^ LEAST_LONG)) {
                 least = limit;
             }
         }
 
         void lowerGreatest(long limit) {
-            if (Long.compareUnsigned(greatest, limit) > 0) {
+            if ((greatest ^ LEAST_LONG) > (limit ^ LEAST_LONG)) {
                 greatest = limit;
             }
         }
@@ -475,6 +495,32 @@ public final class FilterGuard {
         private final Num result = new Num();
         private final Num zero = new Num();
         private final Num limit = new Num();
+
+        /** Of longs without sign; by 0 it is 0. */
+        static long quotient(long x, long by) {
+            if (by == 0) {
+                return 0;
+            }
+            if (by < 0) {
+                return (x ^ LEAST_LONG) < (by ^ LEAST_LONG) ? 0 : 1;
+            }
+            if (x >= 0) {
+                return x / by;
+            }
+            // Half of x has no highest bit; twice its quotient is x's own, or one below it.
+            long nearly = (x >>> 1) / by << 1;
+            long left = x - nearly * by;
+            return (left ^ LEAST_LONG) < (by ^ LEAST_LONG) ? nearly : nearly + 1;
+        }
+
+        /** The lowest so many bytes in turn. */
+        static long swapped(long x, int bytes) {
+            long turned = 0;
+            for (int i = 0; i < bytes; i++) {
+                turned = turned << 8 | x >>> 8 * i & 255;
+            }
+            return turned;
+        }
 
         void operate(int operation, Num x, Num y, boolean isNarrow, Num out) {
             if (!isNarrow) {
@@ -575,7 +621,7 @@ public final class FilterGuard {
             long sum = x.value + y.value;
             long unknown = (x.mask + y.mask + sum ^ sum) | x.mask | y.mask;
             result.bits(sum & ~unknown, unknown);
-            if (Long.compareUnsigned(x.greatest + y.greatest, x.greatest) >= 0) {
+            if (!Num.isBelow(x.greatest + y.greatest, x.greatest)) {
                 result.range(x.least + y.least, x.greatest + y.greatest);
             }
             long low = x.signedLeast + y.signedLeast;
@@ -592,7 +638,7 @@ public final class FilterGuard {
             long difference = x.value - y.value;
             long unknown = (difference + x.mask ^ difference - y.mask) | x.mask | y.mask;
             result.bits(difference & ~unknown, unknown);
-            if (Long.compareUnsigned(x.least, y.greatest) >= 0) {
+            if (!Num.isBelow(x.least, y.greatest)) {
                 result.range(x.least - y.greatest, x.greatest - y.least);
             }
             long low = x.signedLeast - y.signedGreatest;
@@ -610,7 +656,7 @@ public final class FilterGuard {
                 result.exact(x.value * y.value);
                 return;
             }
-            int zeros = Long.numberOfTrailingZeros(x.value | x.mask) + Long.numberOfTrailingZeros(y.value | y.mask);
+            int zeros = x.lowestZeros() + y.lowestZeros();
             result.bits(0, zeros >= 64 ? 0 : MOST << zeros);
             if (!x.isAbove(LOW) && !y.isAbove(LOW)) {
                 result.range(x.least * y.least, x.greatest * y.greatest);
@@ -624,14 +670,14 @@ public final class FilterGuard {
             } else if (by == 0) {
                 result.exact(0);
             } else {
-                result.range(Long.divideUnsigned(x.least, by), Long.divideUnsigned(x.greatest, by));
+                result.range(quotient(x.least, by), quotient(x.greatest, by));
             }
         }
 
         private void rest(Num x, Num y) {
             if (!y.isExact()) {
                 result.range(0, x.greatest);
-            } else if (y.value == 0 || Long.compareUnsigned(x.greatest, y.value) < 0) {
+            } else if (y.value == 0 || Num.isBelow(x.greatest, y.value)) {
                 result.copy(x);
             } else {
                 result.range(0, y.value - 1);
@@ -668,7 +714,7 @@ public final class FilterGuard {
         private void swap(Num x, Num y) {
             int bytes = y.isExact(2) ? 2 : y.isExact(4) ? 4 : 8;
             if (x.isExact()) {
-                result.exact(Long.reverseBytes(x.value) >>> 64 - 8 * bytes);
+                result.exact(swapped(x.value, bytes));
             } else if (bytes < 8) {
                 result.range(0, (1L << 8 * bytes) - 1);
             }
@@ -2197,9 +2243,10 @@ public final class FilterGuard {
                 case MULTIPLY:
                     return x * y;
                 case DIVIDE:
-                    return y == 0 ? 0 : Long.divideUnsigned(x, y);
+                    return Reckoner.quotient(x, y);
                 case REST:
-                    return y == 0 ? x : Long.remainderUnsigned(x, y);
+                    // By 0 the quotient is 0, so this is x.
+                    return x - Reckoner.quotient(x, y) * y;
                 case AND:
                     return x & y;
                 case OR:
@@ -2215,7 +2262,7 @@ public final class FilterGuard {
                 case NEGATE:
                     return -x;
                 case SWAP:
-                    return Long.reverseBytes(x) >>> 64 - 8 * (int) y;
+                    return Reckoner.swapped(x, (int) y);
                 case CUT:
                     return x & MOST >>> 64 - 8 * (int) y;
                 default:
@@ -2232,9 +2279,9 @@ public final class FilterGuard {
                 case SAME:
                     return x == y;
                 case ABOVE:
-                    return Long.compareUnsigned(x, y) > 0;
+                    return Num.isBelow(y, x);
                 case NOT_BELOW:
-                    return Long.compareUnsigned(x, y) >= 0;
+                    return !Num.isBelow(x, y);
                 case MEET:
                     return (x & y) != 0;
                 case NOT_SAME:
@@ -2244,9 +2291,9 @@ public final class FilterGuard {
                 case NOT_LESS:
                     return signedX >= signedY;
                 case BELOW:
-                    return Long.compareUnsigned(x, y) < 0;
+                    return Num.isBelow(x, y);
                 case NOT_ABOVE:
-                    return Long.compareUnsigned(x, y) <= 0;
+                    return !Num.isBelow(y, x);
                 case LESS:
                     return signedX < signedY;
                 default:

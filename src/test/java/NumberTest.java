@@ -13,6 +13,8 @@ public final class NumberTest {
     public static void main(String[] args) {
         sums();
         products();
+        divisions();
+        divisionsOfExact();
         bitwise();
         shifts();
         turns();
@@ -143,6 +145,66 @@ public final class NumberTest {
         unsigned("REST by the greatest", x().field(Assembly.ADD, 2, 5).field(Assembly.REST, 2, 260), 0, 259);
         unsigned("REST by 0", x().field(Assembly.ADD, 2, 5).move(5, 0).from(Assembly.REST, 2, 5), 5, 260);
         unsigned("REST by a register", x().field(Assembly.ADD, 2, 5).from(Assembly.REST, 2, 4), 0, 260);
+    }
+
+    /** 2 is [from, from + 255], 5 is the number by which it is divided. */
+    private static Assembly byteFrom(long from, long by) {
+        return x().wide(5, from).from(Assembly.ADD, 2, 5).wide(5, by);
+    }
+
+    private static void divisions() {
+        long[] froms = {0, 1000, Long.MAX_VALUE - 255, Long.MAX_VALUE - 100, Long.MIN_VALUE, Long.MIN_VALUE + 100, 0xFEDCBA9876543210L, -1000, -256};
+        long[] bys = {1, 2, 3, 100, 0x100000001L, Long.MAX_VALUE, Long.MIN_VALUE, Long.MIN_VALUE + 101, 0xFEDCBA9876543281L, -900, -256, -2, -1};
+        for (long from : froms) {
+            for (long by : bys) {
+                String of = " of a byte from " + from + " on by " + by;
+                long most = from + 255;
+                unsigned("DIVIDE" + of, byteFrom(from, by).from(Assembly.DIVIDE, 2, 5), Unsigned.quotient(from, by), Unsigned.quotient(most, by));
+                boolean isItself = Unsigned.isBelow(most, by);
+                unsigned("REST" + of, byteFrom(from, by).from(Assembly.REST, 2, 5), isItself ? from : 0, isItself ? most : by - 1);
+            }
+        }
+        for (long by : bys) {
+            unsigned("DIVIDE of ANY by " + by, x().copy(2, 4).wide(5, by).from(Assembly.DIVIDE, 2, 5), 0, Unsigned.quotient(-1, by));
+            unsigned("REST of ANY by " + by, x().copy(2, 4).wide(5, by).from(Assembly.REST, 2, 5), 0, by - 1);
+        }
+        unsigned("DIVIDE of the highest bit by a register", byteFrom(-256, 0).from(Assembly.DIVIDE, 2, 4), 0, -1);
+        unsigned("REST of the highest bit by a register", byteFrom(-300, 0).from(Assembly.REST, 2, 4), 0, -45);
+        unsigned("REST of the highest bit by 0", byteFrom(-300, 0).from(Assembly.REST, 2, 5), -300, -45);
+        exact("DIVIDE of the highest bit by 0", byteFrom(-300, 0).from(Assembly.DIVIDE, 2, 5), 0);
+        unsigned("DIVIDE by FIELD below 0", byteFrom(-300, 0).field(Assembly.DIVIDE, 2, -200), 0, 1);
+        exact("DIVIDE by FIELD that is above", byteFrom(-300, 0).field(Assembly.DIVIDE, 2, -44), 0);
+        exact("DIVIDE by FIELD that is not above", byteFrom(-300, 0).field(Assembly.DIVIDE, 2, -300), 1);
+        unsigned("REST by FIELD below 0", byteFrom(-300, 0).field(Assembly.REST, 2, -200), 0, -201);
+        unsigned("REST by FIELD that is above", byteFrom(-300, 0).field(Assembly.REST, 2, -44), -300, -45);
+    }
+
+    /** All that is found out of a program that divides two EXACT numbers. */
+    private static void divisionsOfExact() {
+        for (long x : Unsigned.NUMBERS) {
+            for (long y : Unsigned.NUMBERS) {
+                boolean isKnown = y == 0 || y == 1 || Unsigned.isBelow(x, y);
+                divisionOfExact(Assembly.DIVIDE, x, y, true, Unsigned.quotient(x, y));
+                divisionOfExact(Assembly.REST, x, y, isKnown, isKnown ? Unsigned.rest(x, y) : 0);
+            }
+        }
+    }
+
+    private static void divisionOfExact(int k, long x, long y, boolean isExact, long number) {
+        FilterGuard guard = new FilterGuard();
+        String what = "operation " + k + " of EXACT " + x + ", " + y;
+        Assembly program = a().wide(0, x).wide(2, y).from(k, 0, 2).exit();
+        CHECK.due(what, program.program(guard), 0);
+        int[] about = {0, -1, 4, 0, 0, 1, 6, 6};
+        for (int i = 0; i < about.length; i++) {
+            CHECK.due(what + ": about " + i, guard.about(i), about[i]);
+        }
+        CHECK.due(what + ": visits", guard.fact(4, 0), 1);
+        CHECK.due(what + ": is EXACT", guard.fact(4, 3), isExact ? 1 : 0);
+        CHECK.due(what + ": the number", guard.fact(4, 4), number);
+        boolean isMove = isExact && number == (int) number;
+        CHECK.due(what + ": SHORTER", guard.code(4, true), isMove ? Assembly.slot(183, 0, 0, 0, (int) number) : program.word(4));
+        CHECK.due(what + ": as it was", guard.code(4, false), program.word(4));
     }
 
     private static void bitwise() {

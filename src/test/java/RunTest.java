@@ -10,6 +10,8 @@ public final class RunTest {
         ran();
         registersAndStack();
         relations();
+        divisions();
+        divisionsByField();
         memory();
         addTo();
         turns();
@@ -125,6 +127,74 @@ public final class RunTest {
         }
         gives("a relation with FIELD below 0", a().wide(2, -5).ifField(Assembly.SAME, 2, -5, 2).leave(0).leave(1), 1);
         gives("a narrow relation with FIELD below 0", a().wide(2, 0xFFFFFFFBL).ifNarrowField(Assembly.SAME, 2, -5, 2).leave(0).leave(1), 1);
+    }
+
+    private static Assembly ofContext(int k, boolean isNarrow) {
+        Assembly program = a().load(8, 0, 1, 16).load(8, 2, 1, 24);
+        return (isNarrow ? program.narrowFrom(k, 0, 2) : program.from(k, 0, 2)).exit();
+    }
+
+    private static void divisions() {
+        for (long x : Unsigned.NUMBERS) {
+            FilterGuard divides = new FilterGuard();
+            FilterGuard rests = new FilterGuard();
+            CHECK.due("DIVIDE", ofContext(Assembly.DIVIDE, false).program(divides), 0);
+            CHECK.due("REST", ofContext(Assembly.REST, false).program(rests), 0);
+            for (long y : Unsigned.NUMBERS) {
+                divided("DIVIDE", divides, x, y, Unsigned.quotient(x, y));
+                divided("REST", rests, x, y, Unsigned.rest(x, y));
+            }
+        }
+        for (int i = 0; i < 1200; i += 12) {
+            FilterGuard divides = new FilterGuard();
+            FilterGuard rests = new FilterGuard();
+            ofContext(Assembly.DIVIDE, false).program(divides);
+            ofContext(Assembly.REST, false).program(rests);
+            for (int k = i; k < i + 12; k++) {
+                long x = Unsigned.scattered(2 * k);
+                long y = Unsigned.scattered(k);
+                divided("DIVIDE", divides, x, y, Unsigned.quotient(x, y));
+                divided("REST", rests, x, y, Unsigned.rest(x, y));
+                divided("DIVIDE", divides, y, x, Unsigned.quotient(y, x));
+                divided("REST", rests, y, x, Unsigned.rest(y, x));
+            }
+        }
+        narrowDivisions();
+    }
+
+    private static void narrowDivisions() {
+        for (long x : Unsigned.NUMBERS) {
+            FilterGuard divides = new FilterGuard();
+            FilterGuard rests = new FilterGuard();
+            ofContext(Assembly.DIVIDE, true).program(divides);
+            ofContext(Assembly.REST, true).program(rests);
+            for (long y : Unsigned.NUMBERS) {
+                divided("narrow DIVIDE", divides, x, y, Unsigned.quotient(x & 0xFFFFFFFFL, y & 0xFFFFFFFFL));
+                divided("narrow REST", rests, x, y, Unsigned.rest(x & 0xFFFFFFFFL, y & 0xFFFFFFFFL));
+            }
+        }
+    }
+
+    private static void divided(String what, FilterGuard guard, long x, long y, long want) {
+        guard.context(16, x);
+        guard.context(24, y);
+        for (int mode = 0; mode < 3; mode++) {
+            CHECK.due(what + " of " + x + ", " + y + " in mode " + mode, guard.run(mode), want);
+        }
+    }
+
+    /** A FIELD below 0 is a long whose highest bit is 1. */
+    private static void divisionsByField() {
+        for (int field : new int[] {-1, -2, -3, -256, Integer.MIN_VALUE, Integer.MIN_VALUE + 1, 1, 2, 3, 10, Integer.MAX_VALUE}) {
+            FilterGuard divides = new FilterGuard();
+            FilterGuard rests = new FilterGuard();
+            a().load(8, 0, 1, 16).field(Assembly.DIVIDE, 0, field).exit().program(divides);
+            a().load(8, 0, 1, 16).field(Assembly.REST, 0, field).exit().program(rests);
+            for (long x : Unsigned.NUMBERS) {
+                divided("DIVIDE by FIELD", divides, x, field, Unsigned.quotient(x, field));
+                divided("REST by FIELD", rests, x, field, Unsigned.rest(x, field));
+            }
+        }
     }
 
     private static void memory() {

@@ -12,6 +12,7 @@ public final class ShorterTest {
         visitsAndWays();
         moves();
         movesThatStay();
+        divisions();
         jumps();
         chainsOfJumps();
         offsets();
@@ -94,6 +95,25 @@ public final class ShorterTest {
         shorter("different numbers", loop, loop);
         Assembly loads = a().storeField(8, 10, -8, 5).load(8, 0, 10, -8).exit();
         shorter("a LOAD that is EXACT", loads, loads);
+    }
+
+    /** What is divided has the highest bit, what it is divided by has, and both have. */
+    private static void divisions() {
+        shorter("the highest bit by 2^33", a().wide(2, Long.MIN_VALUE).wide(0, 1L << 33).from(Assembly.DIVIDE, 2, 0).copy(0, 2).exit(),
+            a().wide(2, Long.MIN_VALUE).wide(0, 1L << 33).move(2, 1 << 30).move(0, 1 << 30).exit());
+        shorter("by the highest bit", a().wide(0, Long.MAX_VALUE).wide(2, Long.MIN_VALUE).from(Assembly.DIVIDE, 0, 2).exit(),
+            a().wide(0, Long.MAX_VALUE).wide(2, Long.MIN_VALUE).move(0, 0).exit());
+        shorter("both", a().wide(0, -1).wide(2, Long.MIN_VALUE).from(Assembly.DIVIDE, 0, 2).exit(),
+            a().wide(0, -1).wide(2, Long.MIN_VALUE).move(0, 1).exit());
+        shorter("a rest that is the number itself", a().wide(0, -5).field(Assembly.REST, 0, -4).exit(), a().wide(0, -5).move(0, -5).exit());
+        Assembly rest = a().wide(0, -4).field(Assembly.REST, 0, -5).exit();
+        shorter("a rest of which only bounds are known", rest, rest);
+        shorter("a way that no quotient goes", a().load(8, 0, 1, 16).field(Assembly.DIVIDE, 0, -1).ifField(Assembly.ABOVE, 0, 1, 1).exit().leave(9),
+            a().load(8, 0, 1, 16).field(Assembly.DIVIDE, 0, -1).exit());
+        shorter("a way that no rest goes", a().load(8, 0, 1, 16).field(Assembly.REST, 0, -9).ifField(Assembly.BELOW, 0, -9, 2).leave(9).exit(),
+            a().load(8, 0, 1, 16).field(Assembly.REST, 0, -9).exit());
+        Assembly bound = a().load(8, 0, 1, 16).field(Assembly.DIVIDE, 0, -1).ifField(Assembly.ABOVE, 0, 0, 1).exit().load(8, 0, 1, 16).exit();
+        shorter("ways that are both open", bound, bound);
     }
 
     private static void jumps() {
