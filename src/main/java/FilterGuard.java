@@ -2386,7 +2386,9 @@ public final class FilterGuard {
         }
 
         private boolean mix(long bytes) {
-            if (bytes < 0 || bytes > MOST_MIXED || !locate(registers[1], (int) bytes)) {
+            // Of no bytes nothing is read: its pointer may lie behind the packet.
+            boolean isRight = bytes == 0 || bytes > 0 && bytes <= MOST_MIXED && locate(registers[1], (int) bytes);
+            if (!isRight) {
                 return false;
             }
             int mixed = 1;
