@@ -1,6 +1,7 @@
 /** Promise 4 and 6, section Z: what is known of numbers, seen by the ways that are open. */
 public final class NumberTest {
     private static final Checker CHECK = new Checker("NumberTest");
+    private static final Probe PROBE = new Probe(CHECK);
     private static final int ABOVE = Assembly.ABOVE;
     private static final int BELOW = Assembly.BELOW;
     private static final int GREATER = Assembly.GREATER;
@@ -36,58 +37,24 @@ public final class NumberTest {
         return a().load(1, 2, 1, 16).load(1, 3, 1, 17).load(8, 4, 1, 24);
     }
 
-    /** Looks whether a relation of register 2 and a number can hold, and whether it can't. */
     private static void ways(String what, Assembly program, int k, long number, boolean goes, boolean falls) {
-        FilterGuard guard = new FilterGuard();
-        program.wide(9, number).ifFrom(k, 2, 9, 0).leave(0);
-        int slot = program.size() - 3;
-        CHECK.due(what, program.program(guard), 0);
-        CHECK.due(what + ": relation " + k + " with " + number + " goes", guard.fact(slot, 1), goes ? 1 : 0);
-        CHECK.due(what + ": relation " + k + " with " + number + " falls", guard.fact(slot, 2), falls ? 1 : 0);
+        PROBE.ways(what, program, k, number, goes, falls);
     }
 
-    private static Assembly again(Assembly program) {
-        Assembly copy = a();
-        for (int i = 0; i < program.size(); i++) {
-            copy.raw(program.word(i));
-        }
-        return copy;
-    }
-
-    /** Register 2 is exactly in the unsigned bounds. */
     private static void unsigned(String what, Assembly program, long least, long greatest) {
-        ways(what + " not below least", again(program), BELOW, least, false, true);
-        ways(what + " not above greatest", again(program), ABOVE, greatest, false, true);
-        if (least != greatest) {
-            ways(what + " least", again(program), BELOW, least + 1, true, true);
-            ways(what + " greatest", again(program), ABOVE, greatest - 1, true, true);
-        }
+        PROBE.unsigned(what, program, least, greatest);
     }
 
     private static void signed(String what, Assembly program, long least, long greatest) {
-        ways(what + " not less than least", again(program), LESS, least, false, true);
-        ways(what + " not greater than greatest", again(program), GREATER, greatest, false, true);
-        if (least != greatest) {
-            ways(what + " least", again(program), LESS, least + 1, true, true);
-            ways(what + " greatest", again(program), GREATER, greatest - 1, true, true);
-        }
+        PROBE.signed(what, program, least, greatest);
     }
 
-    /** The bits of register 2 that are known, told by the ones and the zeros among them. */
     private static void bits(String what, Assembly program, long ones, long zeros) {
-        for (int i = 0; i < 64; i++) {
-            long bit = 1L << i;
-            ways(what + " bit " + i, again(program), MEET, bit, (zeros & bit) == 0, (ones & bit) == 0);
-        }
+        PROBE.bits(what, program, ones, zeros);
     }
 
     private static void exact(String what, Assembly program, long want) {
-        FilterGuard guard = new FilterGuard();
-        int slot = program.size() - 1;
-        program.leave(0);
-        CHECK.due(what, program.program(guard), 0);
-        CHECK.due(what + " is EXACT", guard.fact(slot, 3), 1);
-        CHECK.due(what, guard.fact(slot, 4), want);
+        PROBE.exact(what, program, true, want);
     }
 
     private static void sums() {
@@ -419,11 +386,6 @@ public final class NumberTest {
     }
 
     private static void narrowWays(String what, Assembly program, int k, int field, boolean goes, boolean falls) {
-        FilterGuard guard = new FilterGuard();
-        program.ifNarrowField(k, 2, field, 0).leave(0);
-        int slot = program.size() - 3;
-        CHECK.due(what, program.program(guard), 0);
-        CHECK.due(what + " goes", guard.fact(slot, 1), goes ? 1 : 0);
-        CHECK.due(what + " falls", guard.fact(slot, 2), falls ? 1 : 0);
+        PROBE.narrowWays(what, program, k, field, goes, falls);
     }
 }
