@@ -25,6 +25,7 @@ public final class ExploreEdgeTest {
         bytesWithin();
         allIdentities();
         facts();
+        oneObject();
         CHECK.end();
     }
 
@@ -354,27 +355,58 @@ public final class ExploreEdgeTest {
         within("another slot", a().storeField(8, 10, -8, 1), a().storeField(8, 10, -16, 1), false);
     }
 
-    /** All slots of the stack and the registers but 1, 7 and 10 hold PACKETS of identities of their own; 7 that of another one. */
+    /** All slots of the stack and the registers but 10 hold PACKETS of identities of their own, 74 of them; 7 perhaps that of another one. */
     private static Assembly crowd(int seventh) {
         Assembly program = a().load(8, 6, 1, 0).load(1, 7, 1, 24);
         for (int slot = -512; slot < 0; slot += 8) {
             program.copy(8, 6).from(ADD, 8, 7).store(8, 10, slot, 8);
         }
-        for (int register : new int[] {0, 2, 3, 4, 5, 8, 9}) {
+        for (int register : new int[] {0, 1, 2, 3, 4, 5, 8, 9}) {
             program.copy(register, 6).from(ADD, register, 7);
         }
-        return program.from(ADD, 6, 7).copy(7, seventh);
+        program.from(ADD, 6, 7).from(ADD, 7, 6);
+        return seventh == 7 ? program.copy(7, 7) : program.copy(7, seventh);
     }
 
     private static void allIdentities() {
-        for (int seventh : new int[] {0, 2, 9}) {
-            Assembly fallen = crowd(0);
+        for (int seventh : new int[] {7, 6, 1}) {
+            Assembly fallen = crowd(7);
             Assembly gone = crowd(seventh);
             Assembly program = both(a().load(8, 9, 1, 16).ifField(SAME, 9, 3, fallen.size() + 1), fallen).jump(gone.size());
-            both(program, gone).move(9, 0).move(8, 0).leave(1);
+            both(program, gone).leave(1);
             FilterGuard guard = new FilterGuard();
             CHECK.due("two crowds", program.program(guard), 0);
-            CHECK.due("two crowds, 7 is as " + seventh + ": is within", guard.fact(program.size() - 1, 0), seventh == 0 ? 1 : 2);
+            CHECK.due("two crowds, 7 is as " + seventh + ": is within", guard.fact(program.size() - 1, 0), seventh == 7 ? 1 : 2);
+        }
+    }
+
+    /** A later program is explored as by a new object: nothing of the one ahead of it is left. */
+    private static void oneObject() {
+        Assembly deep = a().load(8, 9, 1, 16).ifField(SAME, 9, 1, 2).ifField(SAME, 9, 2, 1).storeField(8, 10, -512, 1).storeField(8, 10, -16, 1).leave(0);
+        for (int i = 0; i < 4; i++) {
+            deep.raw(0);
+        }
+        Assembly[] programs = {
+            a().load(8, 9, 1, 16).storeField(8, 10, -512, 1).storeField(1, 10, -256, 1).ifField(SAME, 9, 1, 2).ifField(SAME, 9, 2, 1).move(2, 1).leave(0),
+            a().load(8, 9, 1, 16).storeField(8, 10, -512, 1).ifField(SAME, 9, 1, 3).ifField(SAME, 9, 2, 2).ifField(SAME, 9, 3, 1).load(1, 0, 10, -504).exit(),
+            a().load(8, 9, 1, 16).ifField(SAME, 9, 1, 2).leave(0).load(1, 0, 10, -512).exit(),
+            a().load(8, 9, 1, 16).ifField(SAME, 9, 1, 2).leave(0).load(1, 0, 10, -256).exit(),
+            a().load(8, 9, 1, 16).ifField(SAME, 9, 3, 0).move(2, 1).ifField(SAME, 9, 4, 0).leave(0),
+            a().move(2, 0).field(ADD, 2, 1).ifField(Assembly.BELOW, 2, 30, -2).leave(1),
+            a().wide(2, 5).wide(3, 6).wide(4, 7).leave(0),
+            a().jump(0).jump(0).jump(0).jump(0).jump(0).leave(0),
+            a().move(2, 1).move(3, 2).move(4, 3).move(5, 4).leave(0),
+            a().move(0, 0).jump(-1), a().move(0, 0).call(9), deep,
+            a().load(8, 6, 1, 0).load(1, 7, 1, 16).from(ADD, 6, 7).load(8, 9, 1, 16).ifField(SAME, 9, 3, 0).leave(0)};
+        for (int first = 0; first < programs.length; first++) {
+            for (int second = 0; second < programs.length; second++) {
+                FilterGuard used = new FilterGuard();
+                both(a(), programs[first]).program(used, 60 + first);
+                both(a(), programs[second]).program(used, 90);
+                FilterGuard fresh = new FilterGuard();
+                both(a(), programs[second]).program(fresh, 90);
+                new Snapshot(fresh).stays(CHECK, "program " + second + " behind program " + first, new Snapshot(used));
+            }
         }
     }
 
@@ -392,11 +424,14 @@ public final class ExploreEdgeTest {
             CHECK.due("the same EXACT number of " + n[0] + ", " + n[1], guard.fact(7, 3), n[2]);
             CHECK.due("that number", guard.fact(7, 4), n[3]);
         }
-        FilterGuard range = explored("EXACT, then not", a().load(1, 9, 1, 16).ifField(SAME, 9, 3, 2).move(2, 1).jump(1).load(1, 2, 1, 24)
-            .field(Assembly.AND, 2, 3).leave(0), 100, 0);
-        CHECK.due("two visits", range.fact(5, 0), 2);
-        CHECK.due("not the same EXACT number", range.fact(5, 3), 0);
-        CHECK.due("no number", range.fact(5, 4), 0);
+        for (int first = 0; first < 2; first++) {
+            Assembly ranges = first == 0 ? a().move(2, 0).jump(1).load(1, 2, 1, 24) : a().load(1, 2, 1, 24).jump(1).move(2, 64);
+            FilterGuard range = explored("EXACT, and not", both(a().load(1, 9, 1, 16).ifField(SAME, 9, 3, 2), ranges).field(Assembly.AND, 2, 3)
+                .field(ADD, 2, 1).leave(0), 100, 0);
+            CHECK.due("visits", range.fact(5, 0), first == 0 ? 2 : 1);
+            CHECK.due("not the same EXACT number", range.fact(5, 3), 0);
+            CHECK.due("no number", range.fact(5, 4), 0);
+        }
         FilterGuard pointer = explored("a pointer is no number", a().copy(2, 1).leave(0), 100, 0);
         CHECK.due("not EXACT", pointer.fact(0, 3), 0);
         FilterGuard load = explored("a LOAD and a WIDE are no ARITHMETIC", a().wide(2, 5).storeField(8, 10, -8, 6).load(8, 0, 10, -8).exit(), 100, 0);

@@ -23,10 +23,13 @@ public final class NumberEdgeTest {
         settledUnsigned();
         settledBits();
         settledEmpty();
+        settledThreeTimes();
+        emptyResults();
         sums();
         signedSums();
         differences();
         signedDifferences();
+        overflowsLeaveBits();
         products();
         quotients();
         rests();
@@ -171,6 +174,32 @@ public final class NumberEdgeTest {
         PROBE.ways("bits not below the least", a().load(1, 2, 1, 16).field(Assembly.AND, 2, 0x41), Assembly.ABOVE, 0x40, true, true);
     }
 
+    /** Bounds and bits draw one another together: what the third time finds out, a quotient of the bounds shows. */
+    private static void settledThreeTimes() {
+        Assembly raised = a().load(8, 2, 1, 16).field(Assembly.OR, 2, 1).field(Assembly.AND, 2, -13).ifField(NOT_BELOW, 2, 2, 2).leave(0)
+            .ifField(NOT_ABOVE, 2, 10, 2).leave(0);
+        PROBE.exact("3 is the only one whose lowest bits are 00x1", again(raised).field(ADD, 2, 0), true, 3);
+        PROBE.exact("its least is 3, too", again(raised).field(Assembly.DIVIDE, 2, 3), true, 1);
+        Assembly lowered = a().load(8, 2, 1, 16).field(Assembly.OR, 2, 12).field(Assembly.AND, 2, -2).ifField(NOT_BELOW, 2, 5, 2).leave(0)
+            .ifField(NOT_ABOVE, 2, 13, 2).leave(0);
+        PROBE.exact("12 is the only one whose lowest bits are 11x0", again(lowered).field(ADD, 2, 0), true, 12);
+        PROBE.exact("its greatest is 12, too", again(lowered).field(Assembly.DIVIDE, 2, 13), true, 0);
+    }
+
+    /** [2, 4] of numbers whose lowest bits are 01: no long agrees, and a result that is EMPTY by that is ANY. */
+    private static void emptyResults() {
+        Assembly none = a().load(8, 2, 1, 16).field(Assembly.LEFT, 2, 2).field(Assembly.OR, 2, 1).ifField(NOT_BELOW, 2, 2, 2).leave(0)
+            .ifField(NOT_ABOVE, 2, 4, 2).leave(0);
+        for (int k : new int[] {ADD, SUBTRACT}) {
+            PROBE.unsigned("an EMPTY result", again(none).field(k, 2, 2), 0, -1);
+            PROBE.signed("an EMPTY result", again(none).field(k, 2, 2), MIN, MAX);
+            PROBE.bits("an EMPTY result", again(none).field(k, 2, 2), 0, 0);
+            PROBE.exact("an EMPTY result", again(none).field(k, 2, 2), false, 0);
+            PROBE.unsigned("a narrow EMPTY result", again(none).narrowField(k, 2, 2), 0, LOW);
+            PROBE.bits("a narrow EMPTY result", again(none).narrowField(k, 2, 2), 0, ~LOW);
+        }
+    }
+
     private static Assembly again(Assembly program) {
         return both(a(), program);
     }
@@ -210,6 +239,25 @@ public final class NumberEdgeTest {
         PROBE.signed("just over", twoSigned(-5, MAX - 10, -11, 3).from(SUBTRACT, 2, 3), MIN, MAX);
         PROBE.signed("NEGATE of all but the least long", signed(2, MIN + 1, 4).negate(2), -4, MAX);
         PROBE.signed("NEGATE of the least long, too", signed(2, MIN, 4).negate(2), MIN, MAX);
+    }
+
+    /** Even numbers: where a signed bound goes over, the bits are still known. */
+    private static void overflowsLeaveBits() {
+        Assembly low = both(a().load(8, 2, 1, 16).field(Assembly.LEFT, 2, 1), a().wide(3, MIN + 10).ifFrom(NOT_LESS, 2, 3, 2).leave(0)
+            .ifField(NOT_GREATER, 2, 0, 2).leave(0));
+        Assembly high = both(a().load(8, 2, 1, 16).field(Assembly.LEFT, 2, 1), a().wide(3, MAX - 9).ifFrom(NOT_GREATER, 2, 3, 2).leave(0)
+            .ifField(NOT_LESS, 2, 0, 2).leave(0));
+        Assembly[] over = {again(low).field(ADD, 2, -12), again(low).field(SUBTRACT, 2, 12), again(high).field(ADD, 2, 12), again(high).field(SUBTRACT, 2, -12)};
+        Assembly[] inside = {again(low).field(ADD, 2, -10), again(low).field(SUBTRACT, 2, 10), again(high).field(ADD, 2, 8), again(high).field(SUBTRACT, 2, -8)};
+        for (int i = 0; i < 4; i++) {
+            PROBE.ways("over, " + i, over[i], Assembly.MEET, 1, false, true);
+            PROBE.ways("inside, " + i, inside[i], Assembly.MEET, 1, false, true);
+            PROBE.ways("a bound of what is over, " + i, over[i], Assembly.GREATER, i < 2 ? 0 : -1, true, true);
+        }
+        PROBE.ways("a bound of what is inside", inside[0], Assembly.GREATER, -10, false, true);
+        PROBE.ways("a bound of what is inside", inside[1], Assembly.GREATER, -10, false, true);
+        PROBE.ways("a bound of what is inside", inside[2], Assembly.LESS, 8, false, true);
+        PROBE.ways("a bound of what is inside", inside[3], Assembly.LESS, 8, false, true);
     }
 
     private static void products() {
@@ -265,6 +313,8 @@ public final class NumberEdgeTest {
         PROBE.exact("RIGHT by 63 of less than 2^63", unsigned(2, 5, MAX).field(Assembly.RIGHT, 2, 63), true, 0);
         PROBE.exact("RIGHT by 63 of 2^63 and more", unsigned(2, MIN, -1).field(Assembly.RIGHT, 2, 63), true, 1);
         PROBE.bits("RIGHT: zeros come in", a().load(8, 2, 1, 16).field(Assembly.OR, 2, -256).field(Assembly.RIGHT, 2, 4), -1L >>> 4 & ~15L, -1L << 60);
+        PROBE.unsigned("RIGHT by 4 of 2^63 and more", unsigned(2, 5, -256).field(Assembly.RIGHT, 2, 4), 0, 0x0FFFFFFFFFFFFFF0L);
+        PROBE.signed("RIGHT SIGNED of less than 0", signed(2, -20, -10).field(Assembly.RIGHT_SIGNED, 2, 1), -10, -5);
         PROBE.signed("RIGHT SIGNED by 0", signed(2, -5, 9).field(Assembly.RIGHT_SIGNED, 2, 0), -5, 9);
         PROBE.signed("RIGHT SIGNED by 1", signed(2, -5, 9).field(Assembly.RIGHT_SIGNED, 2, 1), -3, 4);
         PROBE.signed("RIGHT SIGNED by 63", signed(2, MIN, MAX).field(Assembly.RIGHT_SIGNED, 2, 63), -1, 0);
@@ -341,29 +391,29 @@ public final class NumberEdgeTest {
         PROBE.exact("2^32 and more is narrowed first", a().wide(2, LOW + 17).narrowField(Assembly.RIGHT_SIGNED, 2, 4), true, 1);
     }
 
-    /** What a relation tells of both, where it holds and where it does not. */
+    /** What a relation tells of both, where it holds and where its contrary does not: the bounds of TO, then of FROM. */
     private static void orders() {
-        int[][] ks = {{Assembly.ABOVE, NOT_ABOVE}, {NOT_BELOW, Assembly.BELOW}, {Assembly.BELOW, NOT_BELOW}, {NOT_ABOVE, Assembly.ABOVE}};
-        long[][] gone = {{21, 50, 20, 49}, {20, 50, 20, 50}, {10, 50, 20, 60}, {10, 50, 20, 60}};
+        int[] ks = {Assembly.ABOVE, NOT_BELOW, Assembly.BELOW, NOT_ABOVE};
+        int[] contrary = {NOT_ABOVE, Assembly.BELOW, NOT_BELOW, Assembly.ABOVE};
+        int[] signedKs = {Assembly.GREATER, NOT_LESS, Assembly.LESS, NOT_GREATER};
+        int[] signedContrary = {NOT_GREATER, Assembly.LESS, NOT_LESS, Assembly.GREATER};
+        long[][] told = {{21, 50, 20, 49}, {20, 50, 20, 50}, {20, 49, 21, 50}, {20, 50, 20, 50}};
         for (int i = 0; i < 4; i++) {
-            long greatest = i < 2 ? gone[i][3] : 60;
-            PROBE.unsigned("TO of relation " + ks[i][0], two(10, 50, 20, 60).ifFrom(ks[i][0], 2, 3, 2).leave(0), gone[i][0], gone[i][1]);
-            PROBE.unsigned("FROM of relation " + ks[i][0], two(10, 50, 20, 60).ifFrom(ks[i][0], 2, 3, 2).leave(0).copy(2, 3), 20, greatest);
-            PROBE.unsigned("TO where relation " + ks[i][1] + " does not hold", two(10, 50, 20, 60).ifFrom(ks[i][1], 2, 3, 1).jump(2).leave(0), gone[i][0],
-                gone[i][1]);
-            PROBE.unsigned("FROM where relation " + ks[i][1] + " does not hold",
-                two(10, 50, 20, 60).ifFrom(ks[i][1], 2, 3, 1).jump(2).leave(0).copy(2, 3), 20, greatest);
-        }
-        int[][] signedKs = {{Assembly.GREATER, NOT_GREATER}, {NOT_LESS, Assembly.LESS}, {Assembly.LESS, NOT_LESS}, {NOT_GREATER, Assembly.GREATER}};
-        long[][] signedGone = {{-4, 5, -5, 4}, {-5, 5, -5, 5}, {-15, 5, -5, 15}, {-15, 5, -5, 15}};
-        for (int i = 0; i < 4; i++) {
-            Assembly signed = twoSigned(-15, 5, -5, 15);
-            PROBE.signed("TO of relation " + signedKs[i][0], both(again(signed), a().ifFrom(signedKs[i][0], 2, 3, 2).leave(0)), signedGone[i][0],
-                signedGone[i][1]);
-            PROBE.signed("FROM of relation " + signedKs[i][0], both(again(signed), a().ifFrom(signedKs[i][0], 2, 3, 2).leave(0).copy(2, 3)),
-                signedGone[i][2], signedGone[i][3]);
-            PROBE.signed("TO where relation " + signedKs[i][1] + " does not hold",
-                both(again(signed), a().ifFrom(signedKs[i][1], 2, 3, 1).jump(2).leave(0)), signedGone[i][0], signedGone[i][1]);
+            Assembly numbers = i < 2 ? two(10, 50, 20, 60) : two(20, 60, 10, 50);
+            Assembly holds = both(again(numbers), a().ifFrom(ks[i], 2, 3, 2).leave(0));
+            Assembly holdsNot = both(again(numbers), a().ifFrom(contrary[i], 2, 3, 1).jump(2).leave(0));
+            for (Assembly way : new Assembly[] {holds, holdsNot}) {
+                PROBE.unsigned("TO of relation " + ks[i], way, told[i][0], told[i][1]);
+                PROBE.unsigned("FROM of relation " + ks[i], again(way).copy(2, 3), told[i][2], told[i][3]);
+            }
+            // The same, 35 less: across 0.
+            Assembly signed = i < 2 ? twoSigned(-25, 15, -15, 25) : twoSigned(-15, 25, -25, 15);
+            Assembly signedHolds = both(again(signed), a().ifFrom(signedKs[i], 2, 3, 2).leave(0));
+            Assembly signedHoldsNot = both(again(signed), a().ifFrom(signedContrary[i], 2, 3, 1).jump(2).leave(0));
+            for (Assembly way : new Assembly[] {signedHolds, signedHoldsNot}) {
+                PROBE.signed("TO of relation " + signedKs[i], way, told[i][0] - 35, told[i][1] - 35);
+                PROBE.signed("FROM of relation " + signedKs[i], again(way).copy(2, 3), told[i][2] - 35, told[i][3] - 35);
+            }
         }
     }
 
@@ -474,6 +524,8 @@ public final class NumberEdgeTest {
             .ifFrom(Assembly.MEET, 2, 3, 2).leave(0)), 0, ~255L);
         PROBE.bits("one that is not EXACT: nothing is told where it does not hold", both(again(byteNumber), a().load(1, 3, 1, 17).field(Assembly.OR, 3, 1)
             .field(Assembly.AND, 3, 3).ifFrom(Assembly.MEET, 2, 3, 1).jump(2).leave(0)), 0, ~255L);
+        PROBE.bits("TO that is not EXACT: nothing is told where it does not hold", both(again(byteNumber), a().load(1, 3, 1, 17)
+            .field(Assembly.OR, 3, 1).field(Assembly.AND, 3, 3).ifFrom(Assembly.MEET, 3, 2, 1).jump(2).leave(0)), 0, ~255L);
         PROBE.ways("no place in which both may be 1", byteNumber, Assembly.MEET, 256, false, true);
         PROBE.ways("one place", byteNumber, Assembly.MEET, 128 + 256, true, true);
         PROBE.ways("both have a 1", both(again(byteNumber), a().field(Assembly.OR, 2, 128)), Assembly.MEET, 128 + 256, true, false);

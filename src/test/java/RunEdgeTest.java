@@ -18,12 +18,15 @@ public final class RunEdgeTest {
         keysAreReadAhead();
         lastBytesOfValues();
         tellings();
+        tellGivesZero();
         mixesOfNothing();
         mixesOfMost();
         mixesWrap();
         operations();
         loadsAndStores();
         addTo();
+        sumsOfPointers();
+        maybes();
         ends();
         endsCompared();
         longestPacket();
@@ -234,6 +237,17 @@ public final class RunEdgeTest {
         CHECK.due("number 111", guard.told(111), 0);
     }
 
+    private static void tellGivesZero() {
+        FilterGuard guard = new FilterGuard();
+        CHECK.due("a program", a().load(8, 0, 1, 16).load(8, 1, 1, 24).call(4).exit().program(guard), 0);
+        guard.context(16, 77);
+        guard.context(24, 88);
+        for (int mode = 0; mode < 3; mode++) {
+            CHECK.due("TELL gives 0", guard.run(mode), 0);
+            CHECK.due("what was told", guard.told(mode), 88);
+        }
+    }
+
     /** MIX of no bytes reads none, wherever its pointer is. */
     private static void mixesOfNothing() {
         for (int size : new int[] {0, 1, 2000}) {
@@ -306,7 +320,7 @@ public final class RunEdgeTest {
 
     private static void mixesWrap() {
         FilterGuard guard = new FilterGuard();
-        Assembly program = a().load(8, 6, 1, 16).store(8, 10, -8, 6).load(1, 2, 1, 24).field(Assembly.AND, 2, 7).copy(1, 10).field(ADD, 1, -8).call(6).exit();
+        Assembly program = a().load(8, 6, 1, 16).store(8, 10, -8, 6).load(1, 2, 1, 24).field(Assembly.AND, 2, 7).move(3, 513).copy(1, 10).field(ADD, 1, -8).call(6).exit();
         CHECK.due("a program", program.program(guard), 0);
         guard.context(16, 0x80FF7F0102FE00FFL);
         int[][] firsts = {{}, {0xFF}, {0xFF, 0}, {0xFF, 0, 0xFE}, {0xFF, 0, 0xFE, 2}, {0xFF, 0, 0xFE, 2, 1}, {0xFF, 0, 0xFE, 2, 1, 0x7F},
@@ -413,6 +427,59 @@ public final class RunEdgeTest {
             CHECK.due("the last ahead of a wrap-around", guard.run(mode), -1);
             guard.context(24, -1);
             CHECK.due("the first behind it", guard.run(mode), 0);
+        }
+    }
+
+    /** A pointer and a number in either order, and what a part of it then points to. */
+    private static void sumsOfPointers() {
+        FilterGuard guard = new FilterGuard();
+        guard.map(0, 4, 8, 2);
+        put(guard, 0, 1, 0, 0, 0, 1, 2, 3, 4, 5, 6, 7, 8);
+        Assembly found = a().copy(9, 1).storeField(8, 10, -8, 1).mapTo(1, 0).copy(2, 10).field(ADD, 2, -8).call(1).ifField(Assembly.NOT_SAME, 0, 0, 2)
+            .leave(-7).load(1, 7, 9, 16).field(Assembly.AND, 7, 3);
+        Assembly[] sums = {a().copy(6, 0).from(ADD, 6, 7).load(1, 0, 6, 2).exit(), a().copy(6, 7).from(ADD, 6, 0).load(1, 0, 6, 2).exit(),
+            a().move(6, 2).from(ADD, 6, 0).from(ADD, 7, 6).load(1, 0, 7, 0).exit(),
+            a().field(Assembly.SUBTRACT, 0, -2).from(ADD, 0, 7).load(1, 0, 0, 0).exit()};
+        for (Assembly sum : sums) {
+            CHECK.due("a program", both(both(a(), found), sum).program(guard), 0);
+            for (int more = 0; more < 4; more++) {
+                guard.context(16, more);
+                for (int mode = 0; mode < 3; mode++) {
+                    CHECK.due("the value's byte " + (more + 2), guard.run(mode), more + 3);
+                }
+            }
+        }
+        guard.context(16, 0x1122334455667788L);
+        CHECK.due("CONTEXT to a number", a().move(2, 16).from(ADD, 2, 1).load(8, 0, 2, 0).exit().program(guard), 0);
+        for (int mode = 0; mode < 3; mode++) {
+            CHECK.due("CONTEXT at 16", guard.run(mode), 0x1122334455667788L);
+        }
+        CHECK.due("STACK to a number", a().move(2, -8).from(ADD, 2, 10).storeField(8, 2, 0, 6).copy(3, 10).field(Assembly.SUBTRACT, 3, 8)
+            .load(8, 0, 3, 0).exit().program(guard), 0);
+        for (int mode = 0; mode < 3; mode++) {
+            CHECK.due("STACK at -8", guard.run(mode), 6);
+        }
+    }
+
+    /** 0 and a MAYBE by each relation, in either order, by FIELD or a register. */
+    private static void maybes() {
+        Assembly found = a().load(8, 6, 1, 16).store(8, 10, -8, 6).mapTo(1, 0).copy(2, 10).field(ADD, 2, -8).call(1).move(3, 0);
+        for (int i = 0; i < 6; i++) {
+            int k = i < 3 ? Assembly.SAME : Assembly.NOT_SAME;
+            FilterGuard guard = new FilterGuard();
+            guard.map(1, 1, 1, 1);
+            put(guard, 0, 5, 44);
+            int offset = k == Assembly.SAME ? 2 : 1;
+            Assembly program = both(a(), found);
+            program = i % 3 == 0 ? program.ifField(k, 0, 0, offset) : i % 3 == 1 ? program.ifFrom(k, 0, 3, offset) : program.ifFrom(k, 3, 0, offset);
+            program = k == Assembly.SAME ? program.load(1, 0, 0, 0).exit().field(ADD, 0, 9).exit() : program.exit().load(1, 0, 0, 0).exit();
+            CHECK.due("a program", program.program(guard), 0);
+            for (int mode = 0; mode < 3; mode++) {
+                guard.context(16, 5);
+                CHECK.due("a key that is there", guard.run(mode), 44);
+                guard.context(16, 6);
+                CHECK.due("a key that is not there", guard.run(mode), k == Assembly.SAME ? 9 : 0);
+            }
         }
     }
 

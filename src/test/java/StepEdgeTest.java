@@ -16,6 +16,7 @@ public final class StepEdgeTest {
         exactPlacesOfRegisters();
         numbersForMore();
         sumsForMore();
+        sumsOfNoPointer();
         rooms();
         roomsGrow();
         contextPlaces();
@@ -177,6 +178,27 @@ public final class StepEdgeTest {
         }
     }
 
+    /** END, MAP and MAYBE are no POINTERS, in either order. */
+    private static void sumsOfNoPointer() {
+        Assembly maybe = a().storeField(4, 10, -4, 0).mapTo(1, 0).copy(2, 10).field(ADD, 2, -4).call(1).copy(6, 0);
+        Assembly[] others = {a().load(8, 6, 1, 8), a().mapTo(6, 0), maybe};
+        for (Assembly other : others) {
+            for (int k : new int[] {ADD, SUBTRACT}) {
+                due("no POINTER and a number", again(other).field(k, 6, 1).leave(0), 11);
+                due("no POINTER and FROM", again(other).move(7, 1).from(k, 6, 7).leave(0), 11);
+                due("a number and no POINTER", again(other).move(7, 1).from(k, 7, 6).leave(0), 11);
+                due("a number not EXACT and no POINTER", both(a().load(1, 7, 1, 16), other).from(k, 7, 6).leave(0), 11);
+            }
+        }
+        for (int kind : KINDS) {
+            due("a pointer from a number", pointer(kind).move(7, 1).from(SUBTRACT, 7, 6).leave(0), 11);
+            due("two pointers", pointer(kind).from(ADD, 6, 6).leave(0), 11);
+            due("a narrow sum", pointer(kind).narrowField(ADD, 6, 1).leave(0), 11);
+            due("a narrow MOVE", pointer(kind).narrowFrom(Assembly.MOVE, 7, 6).leave(0), 11);
+            due("a wide MOVE", pointer(kind).copy(7, 6).leave(0), 0);
+        }
+    }
+
     /** 6 is PACKET, 7 END, 8 the PACKET some bytes on; the slots behind are those of a relation of 8 and 7, or turned. */
     private static Assembly compared(int place, int k, boolean isTurned, boolean isGone, Assembly then) {
         Assembly program = a().load(8, 6, 1, 0).load(8, 7, 1, 8).copy(8, 6).field(ADD, 8, place);
@@ -231,6 +253,13 @@ public final class StepEdgeTest {
             .load(1, 0, 6, 0).leave(0), 14);
         due("a new identity's ROOM", both(again(moved), a().field(ADD, 8, 2).ifFrom(Assembly.NOT_ABOVE, 8, 7, 2).leave(0)).load(2, 0, 8, -2).leave(0), 0);
         due("a byte ahead of it", both(again(moved), a().field(ADD, 8, 2).ifFrom(Assembly.NOT_ABOVE, 8, 7, 2).leave(0)).load(1, 0, 8, -3).leave(0), 14);
+        Assembly other = a().copy(4, 6).from(ADD, 4, 5);
+        Assembly gone = a().load(8, 6, 1, 0).load(8, 7, 1, 8).load(1, 5, 1, 16).copy(8, 6).field(ADD, 8, 8).ifFrom(Assembly.NOT_ABOVE, 8, 7, 2).leave(0);
+        due("what is told of one is not of another that goes", both(both(again(gone), other), a().ifFrom(Assembly.ABOVE, 4, 7, 2).leave(0))
+            .load(1, 0, 4, 0).leave(0), 14);
+        Assembly fallen = a().load(8, 6, 1, 0).load(8, 7, 1, 8).load(1, 5, 1, 16).copy(8, 6).field(ADD, 8, 8).ifFrom(Assembly.ABOVE, 8, 7, 1).jump(2).leave(0);
+        due("what is told of one is not of another that falls", both(both(again(fallen), other), a().ifFrom(Assembly.NOT_ABOVE, 4, 7, 1).jump(2).leave(0))
+            .load(1, 0, 4, 0).leave(0), 14);
         due("an EXACT number keeps identity and ROOM", both(again(less), a().move(5, 2).from(ADD, 6, 5)).load(2, 0, 6, 0).leave(0), 0);
         due("LOAD of CONTEXT again has no ROOM", both(again(less), a().load(8, 5, 1, 0)).load(1, 0, 5, 0).leave(0), 14);
     }
