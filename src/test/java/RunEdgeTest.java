@@ -46,6 +46,17 @@ public final class RunEdgeTest {
         return first;
     }
 
+    /** The same answer in all modes, by as many instructions with all checks as without, and by no more of the SHORTER program. */
+    private static void answers(String what, FilterGuard guard, long want) {
+        int[] done = new int[3];
+        for (int mode = 0; mode < 3; mode++) {
+            CHECK.due(what + ", in mode " + mode, guard.run(mode), want);
+            done[mode] = guard.ran(0);
+        }
+        CHECK.due(what + ", instructions with all checks", done[0], done[1]);
+        CHECK.due(what + ", instructions of the SHORTER one", done[2] <= done[1], true);
+    }
+
     private static void put(FilterGuard guard, int map, int... bytes) {
         byte[] all = new byte[bytes.length];
         for (int i = 0; i < bytes.length; i++) {
@@ -267,18 +278,14 @@ public final class RunEdgeTest {
         for (int place : new int[] {0, -1, -512}) {
             FilterGuard guard = new FilterGuard();
             CHECK.due("0 bytes of STACK", a().copy(1, 10).field(ADD, 1, place).move(2, 0).call(6).field(ADD, 0, 4).exit().program(guard), 0);
-            for (int mode = 0; mode < 3; mode++) {
-                CHECK.due("MIX of nothing at " + place, guard.run(mode), 5);
-            }
+            answers("MIX of nothing at " + place, guard, 5);
         }
         FilterGuard guard = new FilterGuard();
         guard.map(0, 4, 8, 1);
         Assembly end = a().storeField(8, 10, -8, 0).mapTo(1, 0).copy(2, 10).field(ADD, 2, -8).call(1).ifField(Assembly.NOT_SAME, 0, 0, 2).leave(-7)
             .copy(1, 0).field(ADD, 1, 8).move(2, 0).call(6).field(ADD, 0, 4).exit();
         CHECK.due("0 bytes at a value's end", end.program(guard), 0);
-        for (int mode = 0; mode < 3; mode++) {
-            CHECK.due("MIX of nothing of a value", guard.run(mode), 5);
-        }
+        answers("MIX of nothing of a value", guard, 5);
     }
 
     private static long mixed(int... bytes) {
@@ -306,9 +313,7 @@ public final class RunEdgeTest {
             Assembly.feed(guard, row);
             guard.packet(bytes);
             guard.context(16, bytes);
-            for (int mode = 0; mode < 3; mode++) {
-                CHECK.due("MIX of " + bytes, guard.run(mode), mixed(first));
-            }
+            answers("MIX of " + bytes, guard, mixed(first));
             guard.context(16, bytes + 1);
             CHECK.due("MIX of more is not gone", guard.run(0), -1);
             Assembly.feed(guard, row);
@@ -327,9 +332,7 @@ public final class RunEdgeTest {
             {0xFF, 0, 0xFE, 2, 1, 0x7F, 0xFF}};
         for (int bytes = 0; bytes <= 7; bytes++) {
             guard.context(24, bytes);
-            for (int mode = 0; mode < 3; mode++) {
-                CHECK.due("MIX of " + bytes + " bytes", guard.run(mode), mixed(firsts[bytes]));
-            }
+            answers("MIX of " + bytes + " bytes", guard, mixed(firsts[bytes]));
         }
     }
 
@@ -377,9 +380,7 @@ public final class RunEdgeTest {
         guard.context(16, x);
         for (long y : NUMBERS) {
             guard.context(24, y);
-            for (int mode = 0; mode < 3; mode++) {
-                CHECK.due((isNarrow ? "narrow " : "") + "operation " + k + " of " + x + ", " + y, guard.run(mode), operated(k, x, y, isNarrow ? 32 : 64));
-            }
+            answers((isNarrow ? "narrow " : "") + "operation " + k + " of " + x + ", " + y, guard, operated(k, x, y, isNarrow ? 32 : 64));
         }
     }
 
@@ -392,18 +393,12 @@ public final class RunEdgeTest {
                 FilterGuard guard = new FilterGuard();
                 guard.context(16, 0xF1E2D3C4B5A69788L);
                 CHECK.due("LOAD", a().move(0, -1).load(bytes, 0, 1, 16 + at).exit().program(guard), 0);
-                for (int mode = 0; mode < 3; mode++) {
-                    CHECK.due("LOAD of " + bytes + " at " + at, guard.run(mode), 0xF1E2D3C4B5A69788L >>> 8 * at & mask);
-                }
+                answers("LOAD of " + bytes + " at " + at, guard, 0xF1E2D3C4B5A69788L >>> 8 * at & mask);
                 CHECK.due("STORE", a().storeField(8, 10, -8, -1).load(8, 2, 1, 16).store(bytes, 10, at - 8, 2).load(8, 0, 10, -8).exit().program(guard), 0);
                 long want = ~(mask << 8 * at) | (0xF1E2D3C4B5A69788L & mask) << 8 * at;
-                for (int mode = 0; mode < 3; mode++) {
-                    CHECK.due("STORE of " + bytes + " at " + at, guard.run(mode), want);
-                }
+                answers("STORE of " + bytes + " at " + at, guard, want);
                 CHECK.due("STORE FIELD", a().storeField(8, 10, -8, 0).storeField(bytes, 10, at - 8, -2).load(8, 0, 10, -8).exit().program(guard), 0);
-                for (int mode = 0; mode < 3; mode++) {
-                    CHECK.due("STORE FIELD of " + bytes + " at " + at, guard.run(mode), (-2L & mask) << 8 * at);
-                }
+                answers("STORE FIELD of " + bytes + " at " + at, guard, (-2L & mask) << 8 * at);
             }
         }
     }
@@ -444,21 +439,15 @@ public final class RunEdgeTest {
             CHECK.due("a program", both(both(a(), found), sum).program(guard), 0);
             for (int more = 0; more < 4; more++) {
                 guard.context(16, more);
-                for (int mode = 0; mode < 3; mode++) {
-                    CHECK.due("the value's byte " + (more + 2), guard.run(mode), more + 3);
-                }
+                answers("the value's byte " + (more + 2), guard, more + 3);
             }
         }
         guard.context(16, 0x1122334455667788L);
         CHECK.due("CONTEXT to a number", a().move(2, 16).from(ADD, 2, 1).load(8, 0, 2, 0).exit().program(guard), 0);
-        for (int mode = 0; mode < 3; mode++) {
-            CHECK.due("CONTEXT at 16", guard.run(mode), 0x1122334455667788L);
-        }
+        answers("CONTEXT at 16", guard, 0x1122334455667788L);
         CHECK.due("STACK to a number", a().move(2, -8).from(ADD, 2, 10).storeField(8, 2, 0, 6).copy(3, 10).field(Assembly.SUBTRACT, 3, 8)
             .load(8, 0, 3, 0).exit().program(guard), 0);
-        for (int mode = 0; mode < 3; mode++) {
-            CHECK.due("STACK at -8", guard.run(mode), 6);
-        }
+        answers("STACK at -8", guard, 6);
     }
 
     /** 0 and a MAYBE by each relation, in either order, by FIELD or a register. */
@@ -474,12 +463,10 @@ public final class RunEdgeTest {
             program = i % 3 == 0 ? program.ifField(k, 0, 0, offset) : i % 3 == 1 ? program.ifFrom(k, 0, 3, offset) : program.ifFrom(k, 3, 0, offset);
             program = k == Assembly.SAME ? program.load(1, 0, 0, 0).exit().field(ADD, 0, 9).exit() : program.exit().load(1, 0, 0, 0).exit();
             CHECK.due("a program", program.program(guard), 0);
-            for (int mode = 0; mode < 3; mode++) {
-                guard.context(16, 5);
-                CHECK.due("a key that is there", guard.run(mode), 44);
-                guard.context(16, 6);
-                CHECK.due("a key that is not there", guard.run(mode), k == Assembly.SAME ? 9 : 0);
-            }
+            guard.context(16, 5);
+            answers("a key that is there", guard, 44);
+            guard.context(16, 6);
+            answers("a key that is not there", guard, k == Assembly.SAME ? 9 : 0);
         }
     }
 
@@ -493,14 +480,13 @@ public final class RunEdgeTest {
                 guard.packet(size);
                 Assembly both = a().load(8, 6, 1, 0).load(8, 7, 1, 8).field(ADD, 6, place);
                 CHECK.due("PACKET - END", both(a(), both).copy(0, 6).from(Assembly.SUBTRACT, 0, 7).exit().program(guard), 0);
-                CHECK.due("bytes between", guard.run(0), place - size);
-                CHECK.due("bytes between", guard.run(2), place - size);
+                answers("bytes between", guard, place - size);
                 CHECK.due("END - PACKET", both(a(), both).copy(0, 7).from(Assembly.SUBTRACT, 0, 6).exit().program(guard), 0);
-                CHECK.due("bytes between", guard.run(1), size - place);
+                answers("bytes between", guard, size - place);
                 CHECK.due("PACKET - PACKET", both(a(), both).load(8, 0, 1, 0).from(Assembly.SUBTRACT, 0, 6).exit().program(guard), 0);
-                CHECK.due("bytes between", guard.run(1), -place);
+                answers("bytes between", guard, -place);
                 CHECK.due("END - END", both(a(), both).load(8, 0, 1, 8).from(Assembly.SUBTRACT, 0, 7).exit().program(guard), 0);
-                CHECK.due("bytes between", guard.run(1), 0);
+                answers("bytes between", guard, 0);
             }
         }
     }
@@ -517,13 +503,9 @@ public final class RunEdgeTest {
                     guard.packet(size);
                     Assembly both = a().load(8, 6, 1, 0).load(8, 7, 1, 8).field(ADD, 6, place);
                     CHECK.due("a program", both(a(), both).ifFrom(ks[i], 6, 7, 2).leave(0).leave(1).program(guard), 0);
-                    for (int mode = 0; mode < 3; mode++) {
-                        CHECK.due("relation " + ks[i] + " of " + place + " and the end " + size, guard.run(mode), holds[i] ? 1 : 0);
-                    }
+                    answers("relation " + ks[i] + " of " + place + " and the end " + size, guard, holds[i] ? 1 : 0);
                     CHECK.due("a program", both(a(), both).ifFrom(ks[i], 7, 6, 2).leave(0).leave(1).program(guard), 0);
-                    for (int mode = 0; mode < 3; mode++) {
-                        CHECK.due("relation " + ks[i] + " of the end " + size + " and " + place, guard.run(mode), turned[i] ? 1 : 0);
-                    }
+                    answers("relation " + ks[i] + " of the end " + size + " and " + place, guard, turned[i] ? 1 : 0);
                 }
             }
         }
@@ -556,14 +538,10 @@ public final class RunEdgeTest {
             all[8 * i] = i + 1;
         }
         CHECK.due("a program of all the stack", program.copy(1, 10).field(ADD, 1, -512).move(2, 512).call(6).exit().program(guard), 0);
-        for (int mode = 0; mode < 3; mode++) {
-            CHECK.due("MIX of all the stack", guard.run(mode), mixed(all));
-        }
+        answers("MIX of all the stack", guard, mixed(all));
         CHECK.due("its two ends", a().storeField(1, 10, -512, 3).storeField(1, 10, -1, 4).load(1, 0, 10, -512).load(1, 2, 10, -1)
             .field(Assembly.LEFT, 0, 8).from(Assembly.OR, 0, 2).exit().program(guard), 0);
-        for (int mode = 0; mode < 3; mode++) {
-            CHECK.due("what they hold", guard.run(mode), 0x304);
-        }
+        answers("what they hold", guard, 0x304);
     }
 
     /** A number of 32 bits with sign becomes FIELD of a MOVE, one more or less does not. */
@@ -576,9 +554,7 @@ public final class RunEdgeTest {
             boolean isShort = number >= Integer.MIN_VALUE && number <= Integer.MAX_VALUE;
             CHECK.due("MOVE of EXACT " + number, guard.code(2, true), isShort ? Assembly.slot(183, 0, 0, 0, (int) number) : program.word(2));
             CHECK.due("the fact", guard.fact(2, 4), number);
-            for (int mode = 0; mode < 3; mode++) {
-                CHECK.due("what it answers", guard.run(mode), number);
-            }
+            answers("what it answers", guard, number);
         }
     }
 }
