@@ -70,6 +70,7 @@ public final class LimitTest {
         CHECK.due("byte 19", guard.packetAt(19), 17);
     }
 
+    /** Its end lies behind the 512 calls of which the document speaks, as do 2000 slots; this class keeps both all the same. */
     private static FilterGuard full() {
         FilterGuard guard = new FilterGuard();
         Assembly.feed(guard, row(0, 100));

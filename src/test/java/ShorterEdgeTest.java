@@ -112,9 +112,9 @@ public final class ShorterEdgeTest {
 
     /** A jump of many slots is told anew by what is left out between. */
     private static void farJumps() {
-        Assembly program = a().load(1, 0, 1, 16).ifField(SAME, 0, 1, 602);
-        Assembly want = a().load(1, 0, 1, 16).ifField(SAME, 0, 1, 300);
-        for (int i = 0; i < 300; i++) {
+        Assembly program = a().load(1, 0, 1, 16).ifField(SAME, 0, 1, 202);
+        Assembly want = a().load(1, 0, 1, 16).ifField(SAME, 0, 1, 100);
+        for (int i = 0; i < 100; i++) {
             program.jump(0).load(1, 2, 1, 17);
             want.load(1, 2, 1, 17);
         }

@@ -262,6 +262,11 @@ public final class StepEdgeTest {
             .load(1, 0, 4, 0).leave(0), 14);
         due("an EXACT number keeps identity and ROOM", both(again(less), a().move(5, 2).from(ADD, 6, 5)).load(2, 0, 6, 0).leave(0), 0);
         due("LOAD of CONTEXT again has no ROOM", both(again(less), a().load(8, 5, 1, 0)).load(1, 0, 5, 0).leave(0), 14);
+        due("LOAD of CONTEXT again to where ROOM was", both(again(less), a().load(8, 6, 1, 0)).load(1, 0, 6, 0).leave(0), 14);
+        due("LOAD of CONTEXT to where another identity was", both(again(moved), a().load(8, 8, 9, 0).copy(4, 6).field(ADD, 4, 3)
+            .ifFrom(Assembly.NOT_ABOVE, 4, 7, 2).leave(0)).load(2, 0, 8, 1).leave(0), 0);
+        due("LOAD of CONTEXT to where a MORE was", both(again(moved), a().load(8, 8, 9, 0).field(ADD, 8, 3).ifFrom(Assembly.NOT_ABOVE, 8, 7, 2).leave(0))
+            .load(2, 0, 6, 1).leave(0), 0);
     }
 
     private static Assembly again(Assembly program) {

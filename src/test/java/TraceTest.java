@@ -4,7 +4,9 @@ import java.util.List;
 /** Promises 4 and 6, section Z: programs of operations and relations near the edges, held against NumberModel. */
 public final class TraceTest {
     private static final Checker CHECK = new Checker("TraceTest");
-    private static final int TRACES = 5000;
+    private static final int TRACES = 6000;
+    /** No more is begun behind so many slots: an object is used for at most 512 calls. */
+    private static final int MOST_SLOTS = 450;
     private static final long[] EDGES = {0, 1, 2, 3, 4, 5, 7, 8, 15, 16, 31, 32, 63, 64, 127, 128, 255, 256, 0xF0, 0xFF00, 65535, 65536, 0x7FFFFFFEL,
         0x7FFFFFFFL, 0x80000000L, 0x80000001L, 0xFFFFFFFEL, 0xFFFFFFFFL, 0x100000000L, 0x100000001L, 0x1FFFFFFFFL, 0x0F0F0F0F0F0F0F0FL,
         Long.MAX_VALUE - 1, Long.MAX_VALUE, Long.MIN_VALUE, Long.MIN_VALUE + 1, 0xF0F0F0F0F0F0F0F0L, -0x100000001L, -0x100000000L, -0x80000001L,
@@ -55,7 +57,7 @@ public final class TraceTest {
             begin(register);
         }
         int steps = 2 + chance(5);
-        for (int i = 0; i < steps && !isThrough; i++) {
+        for (int i = 0; i < steps && !isThrough && program.size() < MOST_SLOTS; i++) {
             int register = 2 + chance(4);
             if (chance(3) == 0) {
                 part(one(RELATION_KS), register, 2 + chance(4), chance(4) == 0);
