@@ -437,6 +437,17 @@ public final class ExploreEdgeTest {
         FilterGuard load = explored("a LOAD and a WIDE are no ARITHMETIC", a().wide(2, 5).storeField(8, 10, -8, 6).load(8, 0, 10, -8).exit(), 100, 0);
         CHECK.due("WIDE", load.fact(0, 3) + load.fact(0, 4), 0);
         CHECK.due("LOAD", load.fact(3, 3) + load.fact(3, 4), 0);
+        FilterGuard others = explored("what is no ARITHMETIC and no jump by a relation", a().wide(6, 5).storeField(8, 10, -8, 5).store(8, 10, -16, 6)
+            .addTo(8, 10, -16, 6).load(4, 7, 10, -8).call(5).jump(0).exit(), 100, 0);
+        for (int slot = 0; slot <= 8; slot++) {
+            CHECK.due("visits of slot " + slot, others.fact(slot, 0), slot == 1 ? 0 : 1);
+            for (int what = 1; what <= 4; what++) {
+                CHECK.due("fact(" + slot + ", " + what + ")", others.fact(slot, what), 0);
+            }
+        }
+        FilterGuard compared = explored("a relation with a fault", a().ifField(SAME, 1, 0, 0).exit(), 100, 12, 0, 1, 0, 0, 0);
+        CHECK.due("it did not go", compared.fact(0, 1), 0);
+        CHECK.due("it did not fall", compared.fact(0, 2), 0);
         FilterGuard fault = explored("a visit with a fault", a().move(2, 5).field(Assembly.MULTIPLY, 1, 3).exit(), 100, 11, 1, 2);
         CHECK.due("it is counted", fault.fact(1, 0), 1);
         CHECK.due("it is not looked at", fault.fact(1, 3) + fault.fact(1, 4), 0);

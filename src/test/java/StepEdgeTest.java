@@ -21,6 +21,7 @@ public final class StepEdgeTest {
         roomsGrow();
         contextPlaces();
         stackPlaces();
+        offsets();
         packetPlaces();
         valuePlaces();
         writtenBytes();
@@ -299,6 +300,22 @@ public final class StepEdgeTest {
                 }
             }
         }
+    }
+
+    /** The place and the least or greatest OFFSET together are what counts. */
+    private static void offsets() {
+        for (int place = -1; place <= 1; place++) {
+            boolean isFine = place < 0;
+            due("the least OFFSET to " + place, a().copy(2, 10).field(ADD, 2, 32768 + place).storeField(1, 2, -32768, 1).leave(0), isFine ? 0 : 14);
+            due("the greatest OFFSET to " + place, a().copy(2, 10).field(ADD, 2, place - 32767).storeField(1, 2, 32767, 1).leave(0), isFine ? 0 : 14);
+        }
+        for (int place = -514; place <= -511; place++) {
+            boolean isFine = place >= -512;
+            due("the least OFFSET to " + place, a().copy(2, 10).field(ADD, 2, 32768 + place).storeField(1, 2, -32768, 1).leave(0), isFine ? 0 : 14);
+            due("the greatest OFFSET to " + place, a().copy(2, 10).field(ADD, 2, place - 32767).storeField(1, 2, 32767, 1).leave(0), isFine ? 0 : 14);
+        }
+        due("the greatest place and OFFSET", a().field(ADD, 1, 65535).load(1, 0, 1, 32767).exit(), 14);
+        due("the least place and OFFSET", a().field(ADD, 1, -65535).load(1, 0, 1, -32768).exit(), 14);
     }
 
     private static void packetPlaces() {
