@@ -11,6 +11,7 @@ public final class ExploreEdgeTest {
         keptStates();
         waitingStates();
         waitingAndOneWay();
+        latestOfWaiting();
         budgetAndMarks();
         budgetAndOpenStates();
         marks();
@@ -101,6 +102,19 @@ public final class ExploreEdgeTest {
             twice.call(5).ifField(SAME, 0, 5, 0);
         }
         explored("150 wait, each time the latest is taken", twice.leave(1), 20000, 0, -1, 302, 150, 150, 151);
+    }
+
+    /** The way where it does not hold is gone first, then the latest that waits: their faults are found in that order. */
+    private static void latestOfWaiting() {
+        Assembly three = a().load(8, 9, 1, 16).ifField(SAME, 9, 1, 3).ifField(SAME, 9, 2, 3).load(1, 0, 10, -8).exit().load(1, 0, 10, 0).exit()
+            .load(1, 0, 9, 0).exit();
+        explored("where it does not hold", three, 100, 15, 3, 4, 0, 2, 0);
+        Assembly fine = a().load(8, 9, 1, 16).ifField(SAME, 9, 1, 3).ifField(SAME, 9, 2, 4).leave(0).load(1, 0, 10, 0).exit().load(1, 0, 9, 0).exit();
+        explored("the latest that waits", fine, 100, 13, 7, 6, 1, 2, 1);
+        Assembly first = a().load(8, 9, 1, 16).ifField(SAME, 9, 1, 3).ifField(SAME, 9, 2, 4).leave(0).load(1, 0, 10, 0).exit().leave(1);
+        explored("then the one that waited first", first, 100, 14, 5, 8, 2, 2, 2);
+        Assembly nested = a().load(8, 9, 1, 16).ifField(SAME, 9, 1, 2).leave(0).ifField(SAME, 9, 1, 2).leave(1).leave(2);
+        explored("one that was taken has its own ways", nested, 100, 0, -1, 7, 2, 1, 2);
     }
 
     private static void budgetAndMarks() {

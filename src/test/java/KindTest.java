@@ -24,6 +24,7 @@ public final class KindTest {
         stored();
         arguments();
         given();
+        reads();
         bothWays();
         exits();
         CHECK.end();
@@ -312,6 +313,42 @@ public final class KindTest {
         open("MIX gives not less than 0", mix, Assembly.LESS, 0, false, true);
         open("MIX gives LOW or less", both(a(), mix).field(Assembly.RIGHT, 0, 31), Assembly.SAME, 1, true, true);
         open("MIX gives not more", both(a(), mix).field(Assembly.RIGHT, 0, 31), Assembly.ABOVE, 1, false, true);
+    }
+
+    /** Register 0 is ANY, or [0, the greatest of so many bytes]. */
+    private static void read(String what, Assembly program, int bytes) {
+        open(what + ": 0", program, Assembly.BELOW, 1, true, true);
+        if (bytes == 8) {
+            open(what + ": MOST", program, Assembly.ABOVE, -2, true, true);
+            open(what + ": below 0", program, Assembly.LESS, Integer.MIN_VALUE, true, true);
+            open(what + ": above", program, Assembly.GREATER, Integer.MAX_VALUE, true, true);
+        } else {
+            Assembly highest = both(a(), program).field(Assembly.RIGHT, 0, 8 * bytes - 1);
+            open(what + ": the highest bit of its bytes", highest, Assembly.SAME, 1, true, true);
+            open(what + ": no bit above", highest, Assembly.ABOVE, 1, false, true);
+            open(what + ": not below 0", program, Assembly.LESS, 0, false, true);
+        }
+    }
+
+    private static void reads() {
+        for (int bytes = 1; bytes <= 8; bytes *= 2) {
+            read("of CONTEXT, " + bytes, a().load(bytes, 0, 1, 16), bytes);
+            read("of PACKET, " + bytes, room(kinds(NONE, PACKET)).load(bytes, 0, 7, 0), bytes);
+            read("of a VALUE, " + bytes, kinds(NONE, VALUE).load(bytes, 0, 7, 0), bytes);
+            read("of STACK that is written, " + bytes, a().storeField(4, 10, -8, 5).storeField(4, 10, -4, 5).load(bytes, 0, 10, -8), bytes);
+            if (bytes < 8) {
+                read("of a saved number, " + bytes, a().storeField(8, 10, -8, 5).load(bytes, 0, 10, -8), bytes);
+            }
+        }
+        read("of ADD TO", a().move(2, 1).storeField(8, 10, -8, 5).addTo(8, 10, -8, 2).load(8, 0, 10, -8), 8);
+        open("a saved number is what it was", a().storeField(8, 10, -8, -5).load(8, 0, 10, -8), Assembly.SAME, -5, true, false);
+        int[] ofPacket = {PACKET, END};
+        for (int to : ofPacket) {
+            for (int from : ofPacket) {
+                read("SUBTRACT of " + to + ", " + from, kinds(to, from).copy(0, 6).from(Assembly.SUBTRACT, 0, 7), 8);
+            }
+        }
+        read("SUBTRACT of a PACKET and itself", kinds(PACKET, NONE).copy(0, 6).from(Assembly.SUBTRACT, 0, 0), 8);
     }
 
     /** Both ways of a MAYBE and 0, and of PACKET and END, are open; what they tell of all that go with it. */
