@@ -174,14 +174,14 @@ public final class ExploreEdgeTest {
     private static void firstOfKept() {
         Assembly closedFirst = a().load(1, 6, 1, 16).load(8, 9, 1, 24).move(7, 0).ifField(SAME, 9, 1, 2).move(9, 0).jump(3)
             .move(9, 0).move(6, 5).load(8, 7, 1, 32)
-            .ifField(Assembly.NOT_SAME, 7, 0, 2).leave(0).move(7, 0).jump(-4);
+            .ifField(Assembly.NOT_SAME, 7, 0, 2).leave(0).move(7, 0).jump(-5);
         FilterGuard guard = explored("the first is closed, the second open", closedFirst, 100, 0);
         CHECK.due("paths", guard.about(5), 3);
         CHECK.due("visits where they come together", guard.fact(9, 0), 2);
         Assembly openFirst = a().load(1, 6, 1, 16).move(7, 0).jump(0)
-            .ifField(Assembly.NOT_SAME, 7, 0, 9).ifField(SAME, 6, 5, 8).load(8, 9, 1, 24).ifField(SAME, 9, 1, 4)
+            .ifField(Assembly.NOT_SAME, 7, 0, 10).ifField(SAME, 6, 5, 9).load(8, 9, 1, 24).ifField(SAME, 9, 1, 4)
             .move(6, 5).load(8, 7, 1, 32).move(9, 0).jump(-8)
-            .move(6, 5).jump(-10)
+            .move(6, 5).move(9, 0).jump(-11)
             .leave(0);
         explored("the first is open, the second closed", openFirst, 100, 19, 3);
     }
