@@ -39,10 +39,12 @@ public final class NumberEdgeTest {
         narrowed();
         narrowRightSigned();
         orders();
+        ordersThatTellNothing();
         ordersThatCantHold();
         same();
         notSame();
         meets();
+        meetsLeaveBits();
         narrowRelations();
         narrowSignedRelations();
         CHECK.end();
@@ -417,6 +419,21 @@ public final class NumberEdgeTest {
         }
     }
 
+    /** Bounds that are within what a relation tells stay as they are, of TO and of FROM. */
+    private static void ordersThatTellNothing() {
+        int[] ks = {Assembly.ABOVE, NOT_BELOW, Assembly.BELOW, NOT_ABOVE};
+        int[] signedKs = {Assembly.GREATER, NOT_LESS, Assembly.LESS, NOT_GREATER};
+        for (int i = 0; i < 4; i++) {
+            boolean isUp = i < 2;
+            Assembly way = both(isUp ? two(20, 60, 10, 50) : two(10, 50, 20, 60), a().ifFrom(ks[i], 2, 3, 2).leave(0));
+            PROBE.unsigned("TO of relation " + ks[i] + " stays", way, isUp ? 20 : 10, isUp ? 60 : 50);
+            PROBE.unsigned("FROM of relation " + ks[i] + " stays", again(way).copy(2, 3), isUp ? 10 : 20, isUp ? 50 : 60);
+            Assembly signed = both(isUp ? twoSigned(-15, 25, -25, 15) : twoSigned(-25, 15, -15, 25), a().ifFrom(signedKs[i], 2, 3, 2).leave(0));
+            PROBE.signed("TO of relation " + signedKs[i] + " stays", signed, isUp ? -15 : -25, isUp ? 25 : 15);
+            PROBE.signed("FROM of relation " + signedKs[i] + " stays", again(signed).copy(2, 3), isUp ? -25 : -15, isUp ? 15 : 25);
+        }
+    }
+
     private static void ordersThatCantHold() {
         PROBE.ways("0 above MOST", a().move(2, 0), Assembly.ABOVE, -1, false, true);
         PROBE.ways("ANY above MOST", a().load(8, 2, 1, 16), Assembly.ABOVE, -1, false, true);
@@ -530,6 +547,17 @@ public final class NumberEdgeTest {
         PROBE.ways("one place", byteNumber, Assembly.MEET, 128 + 256, true, true);
         PROBE.ways("both have a 1", both(again(byteNumber), a().field(Assembly.OR, 2, 128)), Assembly.MEET, 128 + 256, true, false);
         PROBE.ways("nothing meets 0", byteNumber, Assembly.MEET, 0, false, true);
+    }
+
+    /** Bits that were known stay so where MEET holds and where it does not, with the EXACT number as FROM and as TO. */
+    private static void meetsLeaveBits() {
+        Assembly known = a().load(1, 2, 1, 16).field(Assembly.AND, 2, 0xF0).field(Assembly.OR, 2, 1).move(3, 16);
+        for (int turn = 0; turn < 2; turn++) {
+            int to = 2 + turn;
+            int from = 3 - turn;
+            PROBE.bits("MEET of " + to + " and " + from, both(again(known), a().ifFrom(Assembly.MEET, to, from, 2).leave(0)), 0x11, ~0xF1L);
+            PROBE.bits("NOT MEET of " + to + " and " + from, both(again(known), a().ifFrom(Assembly.MEET, to, from, 1).jump(2).leave(0)), 1, ~0xE1L);
+        }
     }
 
     /** Unsigned ones are told of up to LOW; of more only whether they can hold of the lowest 32 bits. */

@@ -16,6 +16,7 @@ public final class RunEdgeTest {
         updatesOfTable();
         deletes();
         keysAreReadAhead();
+        keysAndValuesOfOtherLengths();
         lastBytesOfValues();
         tellings();
         tellGivesZero();
@@ -24,6 +25,7 @@ public final class RunEdgeTest {
         mixesWrap();
         operations();
         loadsAndStores();
+        storesBehindCuts();
         addTo();
         sumsOfPointers();
         maybes();
@@ -37,6 +39,10 @@ public final class RunEdgeTest {
 
     private static Assembly a() {
         return new Assembly();
+    }
+
+    private static Assembly again(Assembly program) {
+        return both(a(), program);
     }
 
     private static Assembly both(Assembly first, Assembly second) {
@@ -200,6 +206,38 @@ public final class RunEdgeTest {
             CHECK.due("UPDATE", guard.run(mode), 0);
             CHECK.due("the key is what was there ahead of it", guard.entry(0, 0, 100), 8);
             CHECK.due("the value", guard.entry(0, 0, 200), 9);
+        }
+    }
+
+    /** Of a key and a value no more bytes are read than they have: the last ones of the stack, or of the packet. */
+    private static void keysAndValuesOfOtherLengths() {
+        for (int[] lengths : new int[][] {{16, 1}, {1, 16}, {3, 7}, {7, 3}}) {
+            for (int atEnd = 2; atEnd <= 3; atEnd++) {
+                FilterGuard guard = new FilterGuard();
+                guard.map(1, lengths[0], lengths[1], 2);
+                Assembly stack = a();
+                for (int place = -24; place < 0; place++) {
+                    stack.storeField(1, 10, place, -place);
+                }
+                int length = lengths[atEnd - 2];
+                int other = lengths[3 - atEnd];
+                Assembly call = a().mapTo(1, 0).copy(5 - atEnd, 10).field(ADD, 5 - atEnd, -24).copy(atEnd, 10).field(ADD, atEnd, -length).call(2).exit();
+                CHECK.due("a program", both(again(stack), call).program(guard), 0);
+                answers("UPDATE by the last bytes of the stack", guard, 0);
+                CHECK.due("one entry", guard.count(10), 1);
+                for (int i = 0; i < length; i++) {
+                    CHECK.due("a byte of the last", guard.entry(0, 0, (atEnd - 1) * 100 + i), length - i);
+                }
+                for (int i = 0; i < other; i++) {
+                    CHECK.due("a byte of the first", guard.entry(0, 0, (4 - atEnd) * 100 + i), 24 - i);
+                }
+                Assembly packet = a().load(8, 6, 1, 0).load(8, 7, 1, 8).copy(8, 6).field(ADD, 8, length).ifFrom(Assembly.NOT_ABOVE, 8, 7, 2).leave(-9);
+                Assembly other6 = a().mapTo(1, 0).copy(5 - atEnd, 10).field(ADD, 5 - atEnd, -24).copy(atEnd, 6).call(2).exit();
+                CHECK.due("a program", both(both(packet, stack), other6).program(guard), 0);
+                Assembly.feed(guard, new byte[length]);
+                CHECK.due("packet", guard.packet(length), true);
+                answers("UPDATE by the last bytes of the packet", guard, 0);
+            }
         }
     }
 
@@ -400,6 +438,26 @@ public final class RunEdgeTest {
                 CHECK.due("STORE FIELD", a().storeField(8, 10, -8, 0).storeField(bytes, 10, at - 8, -2).load(8, 0, 10, -8).exit().program(guard), 0);
                 answers("STORE FIELD of " + bytes + " at " + at, guard, (-2L & mask) << 8 * at);
             }
+        }
+    }
+
+    /** FIELD is a number of bits of CUT and SWAP alone, not of what comes behind them. */
+    private static void storesBehindCuts() {
+        for (int bits = 16; bits <= 64; bits *= 2) {
+            for (int bytes = 1; bytes <= 8; bytes *= 2) {
+                FilterGuard guard = new FilterGuard();
+                Assembly cut = a().load(8, 2, 1, 16).storeField(8, 10, -8, 0).cut(2, bits).storeField(bytes, 10, -8, 120).load(8, 0, 10, -8).exit();
+                CHECK.due("CUT and STORE FIELD", cut.program(guard), 0);
+                answers("STORE FIELD behind CUT", guard, 120);
+                Assembly swap = a().load(8, 2, 1, 16).storeField(8, 10, -8, 0).swap(2, bits).storeField(bytes, 10, -8, 120).load(8, 0, 10, -8).exit();
+                CHECK.due("SWAP and STORE FIELD", swap.program(guard), 0);
+                answers("STORE FIELD behind SWAP", guard, 120);
+            }
+            FilterGuard guard = new FilterGuard();
+            Assembly known = a().load(8, 2, 1, 16).cut(2, bits).storeField(8, 10, -8, 120).load(8, 3, 10, -8).copy(0, 3).exit();
+            CHECK.due("CUT and STORE FIELD", known.program(guard), 0);
+            CHECK.due("what is known of it", guard.fact(4, 4), 120);
+            answers("what is known of it", guard, 120);
         }
     }
 

@@ -18,6 +18,7 @@ public final class ShorterTest {
         offsets();
         widesGoTogether();
         neitherWay();
+        neitherWayBack();
         CHECK.end();
     }
 
@@ -164,5 +165,13 @@ public final class ShorterTest {
         CHECK.due("visits of it", guard.fact(5, 0), 1);
         CHECK.due("it did not go", guard.fact(5, 1), 0);
         CHECK.due("it did not fall", guard.fact(5, 2), 0);
+    }
+
+    /** Such a jump back to slot 0, over one that is left out. */
+    private static void neitherWayBack() {
+        shorter("a jump to slot 0 that did neither", a().load(8, 2, 1, 16).field(Assembly.LEFT, 2, 2).field(Assembly.OR, 2, 1).jump(0)
+            .ifField(Assembly.BELOW, 2, 2, 4).ifField(Assembly.ABOVE, 2, 4, 3).ifField(Assembly.MEET, 2, 4, -7).leave(1).leave(2),
+            a().load(8, 2, 1, 16).field(Assembly.LEFT, 2, 2).field(Assembly.OR, 2, 1)
+            .ifField(Assembly.BELOW, 2, 2, 2).ifField(Assembly.ABOVE, 2, 4, 1).ifField(Assembly.MEET, 2, 4, -6).leave(2));
     }
 }
