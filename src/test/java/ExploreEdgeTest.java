@@ -21,6 +21,7 @@ public final class ExploreEdgeTest {
         boundsWithin();
         bitsWithin();
         placesWithin();
+        placesAndMapsWithin();
         roomsWithin();
         identitiesWithin();
         bytesWithin();
@@ -102,6 +103,12 @@ public final class ExploreEdgeTest {
             twice.call(5).ifField(SAME, 0, 5, 0);
         }
         explored("150 wait, each time the latest is taken", twice.leave(1), 20000, 0, -1, 302, 150, 150, 151);
+        Assembly again = a();
+        for (int i = 0; i < 200; i++) {
+            again.call(5).ifField(SAME, 0, 5, 400 - 2 * i);
+        }
+        again.leave(1).call(5).ifField(SAME, 0, 6, 0).leave(2);
+        explored("200 waited, and one that was taken has both ways", again, 20000, 0, -1, 406, 2, 200, 202);
     }
 
     /** The way where it does not hold is gone first, then the latest that waits: their faults are found in that order. */
@@ -310,6 +317,27 @@ public final class ExploreEdgeTest {
         within("a value's map", value(0, 0, 0), value(1, 0, 0), false);
         within("a MAYBE and a VALUE", find(0, 6), value(0, 0, 0), false);
         within("a MAYBE and 0", find(0, 6), both(find(0, 6), a().ifField(SAME, 6, 0, 2).leave(0)), false);
+    }
+
+    /** The same place and the same map, whichever they are. */
+    private static void placesAndMapsWithin() {
+        Assembly[] pointers = {a().copy(3, 1), a().copy(3, 10), a().load(8, 3, 1, 0)};
+        int[] places = {-65535, -8, -1, 1, 8, 65535};
+        for (int first : places) {
+            for (int second : places) {
+                for (Assembly pointer : pointers) {
+                    within("places " + first + ", " + second, both(a(), pointer).field(ADD, 3, first), both(a(), pointer).field(ADD, 3, second), first == second);
+                }
+                within("a value's places " + first + ", " + second, value(1, 3, first), value(1, 3, second), first == second);
+            }
+        }
+        for (int first = 0; first < 2; first++) {
+            for (int second = 0; second < 2; second++) {
+                within("MAPS " + first + ", " + second, a().mapTo(3, first), a().mapTo(3, second), first == second);
+                within("MAYBES of " + first + ", " + second, find(first, 6), find(second, 6), first == second);
+                within("VALUES of " + first + ", " + second, value(first, 1, 5), value(second, 1, 5), first == second);
+            }
+        }
     }
 
     /** Register 6 is PACKET with so much ROOM. */
